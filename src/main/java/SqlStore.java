@@ -34,6 +34,9 @@ public final class SqlStore {
     private static final int LIST = 60;
     private static final int PAGES = 60;
     private static final int PAGE = 256;
+    // Images have room for 64 pages, so that a place that is cut to these bits lies in them.
+    private static final int IMAGE = 64 * PAGE;
+    private static final int IN_IMAGE = IMAGE - 1;
     private static final int HEADER = 4;
     private static final int LOAD = 252;
     private static final int JOINED_LOAD = 200;
@@ -188,6 +191,8 @@ public final class SqlStore {
     private static final int W_WHERE = 194;
 
     private static final byte[] NO_BYTES = {};
+    // Far above what any run can need.
+    private static final int MANY = 1000000;
 
     private final byte[] tape = new byte[TAPE];
     private int tapeLength;
@@ -209,6 +214,7 @@ public final class SqlStore {
     private final Log log = new Log();
     private final Tree tree = new Tree();
     private final Parser parser = new Parser();
+    private final Parser reader = new Parser();
     private final Checker checker = new Checker(tree, parser);
     private final Runner runner = new Runner(tree, bound);
     private final Changer changer = new Changer(tree, runner, checker);
@@ -252,12 +258,10 @@ public final class SqlStore {
         if (error == 0) {
             look();
             error = checker.check(parser.statement);
-            prepareError = checker.errorPlace;
+            prepareError = error == 0 ? -1 : checker.errorPlace;
         }
-        if (error != 0) return error;
-        prepareError = -1;
-        keepStatement(slot, length);
-        return 0;
+        if (error == 0) keepStatement(slot, length);
+        return error;
     }
 
     private void keepStatement(int slot, int length) {
@@ -287,8 +291,14 @@ public final class SqlStore {
 
     /** Lets the pages and the definitions be those that the client in use sees. */
     private void look() {
-        tree.image = log.view(inUse);
-        checker.learn();
+        tree.show(log.view(inUse));
+        if (checker.isUpToDate()) return;
+        reader.clear();
+        for (int i = 0; i < checker.definitionCount; i++) {
+            Definition d = checker.definition(i);
+            if (d != null && reader.read(checker.texts, d.textAt, d.textLength) == 0) checker.interpret(d, reader.statement);
+        }
+        checker.connect();
     }
 
     public int errorAt() {
@@ -364,8 +374,41 @@ public final class SqlStore {
         forgetRun();
         readSlot(slot);
         Statement s = parser.statement;
-        lastCode = s.isTransaction() ? log.transact(s, inUse) : runStatement(s, slot);
-        return lastCode;
+        if (s.isTransaction()) {
+            lastCode = log.transact(s, inUse);
+            return lastCode;
+        }
+        look();
+        boolean writes = s.kind != W_SELECT;
+        lastCode = checker.check(s) != 0 ? CODE_ERROR : writes && log.isBusy(inUse) ? CODE_BUSY : 0;
+        if (lastCode != 0) return lastCode;
+        log.enter(inUse, writes);
+        tree.show(log.view(inUse));
+        runner.begin(slot * PARAMETERS);
+        changer.begin(s, slotTexts, slot * TAPE);
+        int ended = 0;
+        try {
+            switch (s.kind) {
+                case W_SELECT: runner.answer(s.query); break;
+                case W_INSERT: changer.insert(s); break;
+                case W_UPDATE: changer.update(s); break;
+                case W_DELETE: changer.delete(s); break;
+                case W_TABLE: changer.createTable(s); break;
+                case W_INDEX: changer.createIndex(s); break;
+                case W_VIEW: changer.createView(s); break;
+                default: changer.drop(s);
+            }
+        } catch (IllegalStateException stopped) {
+            ended = runner.stopCode;
+        } catch (UnsupportedOperationException noRoom) {
+            ended = CODE_NO_ROOM;
+        }
+        lastCode = log.leave(inUse, writes, ended);
+        stepCount = runner.stepCount;
+        if (lastCode != 0) return lastCode;
+        changeCount = changer.changeCount;
+        if (!writes) tell(s.query);
+        return 0;
     }
 
     private void forgetRun() {
@@ -379,34 +422,6 @@ public final class SqlStore {
     private int readSlot(int slot) {
         parser.clear();
         return parser.read(slotTexts, slot * TAPE, slotLengths[slot]);
-    }
-
-    private int runStatement(Statement s, int slot) {
-        look();
-        if (checker.check(s) != 0) return CODE_ERROR;
-        boolean writes = s.kind != W_SELECT;
-        if (writes && log.isBusy(inUse)) return CODE_BUSY;
-        log.enter(inUse, writes);
-        tree.image = log.view(inUse);
-        runner.begin(slot * PARAMETERS);
-        int code = log.leave(inUse, writes, execute(s, slot));
-        stepCount = runner.stepCount;
-        if (code != 0) return code;
-        if (writes) changeCount = changer.changeCount;
-        else tell(s.query);
-        return 0;
-    }
-
-    private int execute(Statement s, int slot) {
-        try {
-            if (s.kind == W_SELECT) runner.runQuery(s.query, 0);
-            else changer.change(s, slotTexts, slot * TAPE);
-            return 0;
-        } catch (IllegalStateException stopped) {
-            return runner.stopCode;
-        } catch (UnsupportedOperationException noRoom) {
-            return CODE_NO_ROOM;
-        }
     }
 
     private void tell(Select q) {
@@ -470,28 +485,23 @@ public final class SqlStore {
     // ---- indices that are chosen
 
     public int indexUsed(int slot, int source) throws IndexOutOfBoundsException, IllegalStateException {
-        int error = checkSlot(slot);
-        if (error != 0) return -3;
+        needSlot(slot);
+        needOpen();
+        needStatement(slot);
+        look();
+        if (readSlot(slot) != 0 || checker.check(parser.statement) != 0) return -3;
         Source s = sourceOfText(source);
         return s == null ? -2 : s.index;
     }
 
     public int worthOf(int slot, int source) throws IndexOutOfBoundsException, IllegalStateException {
-        int error = checkSlot(slot);
-        if (error != 0) return -3;
-        Source s = sourceOfText(source);
-        return s == null ? -2 : s.worth;
-    }
-
-    /** Checks the statement in a slot as it would be checked now. */
-    private int checkSlot(int slot) {
         needSlot(slot);
         needOpen();
         needStatement(slot);
-        int error = readSlot(slot);
-        if (error != 0) return error;
         look();
-        return checker.check(parser.statement);
+        if (readSlot(slot) != 0 || checker.check(parser.statement) != 0) return -3;
+        Source s = sourceOfText(source);
+        return s == null ? -2 : s.worth;
     }
 
     private Source sourceOfText(int wanted) {
@@ -534,23 +544,23 @@ public final class SqlStore {
 
     public int pages() throws IllegalStateException {
         needOpen();
-        tree.image = log.view(inUse);
+        tree.show(log.view(inUse));
         return tree.pageCount();
     }
 
     public int freePages() throws IllegalStateException {
         needOpen();
-        tree.image = log.view(inUse);
+        tree.show(log.view(inUse));
         return tree.freeCount();
     }
 
     public int treePages() throws IllegalStateException {
         needOpen();
+        look();
         return countTreePages();
     }
 
     private int countTreePages() {
-        look();
         int count = 0;
         int trees = countTrees();
         for (int i = 0; i < trees; i++) count += tree.collect(rootOfTree(i));
@@ -559,7 +569,7 @@ public final class SqlStore {
 
     public int pageByte(int page, int place) throws IllegalStateException, IndexOutOfBoundsException {
         needOpen();
-        tree.image = log.view(inUse);
+        tree.show(log.view(inUse));
         if (page < 0 || page >= tree.pageCount()) throw new IndexOutOfBoundsException("no such page");
         if (place < 0 || place >= PAGE) throw new IndexOutOfBoundsException("no such place");
         return tree.at(page * PAGE + place);
@@ -567,28 +577,27 @@ public final class SqlStore {
 
     private int countTrees() {
         int count = 1;
-        for (int i = 0; i < checker.definitionCount; i++) count += checker.definitions[i].rootCount;
+        for (int i = 0; i < checker.definitionCount; i++) {
+            Definition d = checker.definition(i);
+            if (d != null) count += d.rootCount;
+        }
         return count;
     }
 
-    /** The root of a tree; -1 if there is no such tree. */
+    /** The root of a tree; 1, that of the tree of definitions, for the first one. */
     private int rootOfTree(int wanted) {
-        if (wanted == 0) return 1;
         int i = wanted - 1;
         for (int k = 0; k < checker.definitionCount && i >= 0; k++) {
-            Definition d = checker.definitions[k];
+            Definition d = checker.definition(k);
+            if (d == null) continue;
             if (i < d.rootCount) return d.rootOfTree(i);
             i -= d.rootCount;
         }
-        return -1;
+        return 1;
     }
 
-    private int needTree(int wanted) {
-        needOpen();
-        look();
-        int root = rootOfTree(wanted);
-        if (root < 0) throw new IndexOutOfBoundsException("no such tree");
-        return root;
+    private void needTree(int wanted) {
+        if (wanted < 0 || wanted >= countTrees()) throw new IndexOutOfBoundsException("no such tree");
     }
 
     public int trees() throws IllegalStateException {
@@ -598,17 +607,24 @@ public final class SqlStore {
     }
 
     public int rootOf(int tree) throws IllegalStateException, IndexOutOfBoundsException {
-        return needTree(tree);
+        needOpen();
+        look();
+        needTree(tree);
+        return rootOfTree(tree);
     }
 
     public int levelsOf(int tree) throws IllegalStateException, IndexOutOfBoundsException {
-        int root = needTree(tree);
-        return this.tree.levels(root);
+        needOpen();
+        look();
+        needTree(tree);
+        return this.tree.levels(rootOfTree(tree));
     }
 
     public int entriesOf(int tree) throws IllegalStateException, IndexOutOfBoundsException {
-        int root = needTree(tree);
-        return this.tree.leafCells(root);
+        needOpen();
+        look();
+        needTree(tree);
+        return this.tree.leafCells(rootOfTree(tree));
     }
 
     public double meanFill() throws IllegalStateException {
@@ -716,7 +732,9 @@ public final class SqlStore {
         }
         d = digestOfRows(d);
         for (int i = 0; i < log.length && i < log.bytes.length; i++) d = d * 31 + (log.bytes[i] & 255);
-        return log.isOpened ? digestOfPages(d) : d;
+        if (!log.isOpened) return d;
+        look();
+        return digestOfPages(d);
     }
 
     private long digestOfRows(long start) {
@@ -736,13 +754,11 @@ public final class SqlStore {
 
     private long digestOfPages(long start) {
         long d = start;
-        tree.image = log.view(inUse);
         int count = tree.pageCount();
         d = d * 31 + count;
         d = d * 31 + tree.freeCount();
         d = d * 31 + countTreePages();
         d = d * 31 + log.dueFrames(inUse);
-        tree.image = log.view(inUse);
         for (int i = 0; i < count * PAGE; i++) d = d * 31 + tree.at(i);
         return d;
     }
@@ -763,15 +779,19 @@ public final class SqlStore {
         }
 
         void setNumber(long n) {
-            clear();
             kind = INT;
             number = n;
+            length = 0;
+            link = 0;
         }
 
         void setText(byte[] from, int at, int count) {
-            clear();
+            kind = NULL;
+            number = 0;
+            length = 0;
+            link = 0;
             if (from == null || at < 0 || count < 0 || count > TEXT_BYTES || at > from.length - count) return;
-            keepRoom(count);
+            if (text.length < count) text = new byte[count <= STORED_BYTES ? STORED_BYTES : TEXT_BYTES];
             System.arraycopy(from, at, text, 0, count);
             kind = TEXT;
             length = count;
@@ -783,23 +803,32 @@ public final class SqlStore {
             else setText(other.text, 0, other.length);
         }
 
-        /** The two texts, one behind the other, which have at most 60 bytes together. */
+        /** The two texts, one behind the other; null if they have more than 60 bytes. */
         void setJoined(Value a, Value b) {
+            int count = a.length + b.length;
             clear();
-            if (a.length + b.length > TEXT_BYTES) return;
-            keepRoom(a.length + b.length);
+            if (count > TEXT_BYTES) return;
+            if (text.length < count) text = new byte[TEXT_BYTES];
             System.arraycopy(a.text, 0, text, 0, a.length);
             System.arraycopy(b.text, 0, text, a.length, b.length);
             kind = TEXT;
-            length = a.length + b.length;
+            length = count;
+        }
+
+        /** Takes the text between two quotes, where two quotes stand for one. */
+        void setQuoted(byte[] from, int begin, int end) {
+            clear();
+            if (from == null || begin < 0 || end > from.length) return;
+            if (text.length < QUOTED_BYTES) text = new byte[QUOTED_BYTES];
+            kind = TEXT;
+            for (int i = begin; i < end && length < QUOTED_BYTES; i++) {
+                text[length++] = from[i];
+                if (from[i] == '\'') i++;
+            }
         }
 
         void setPart(Value of, int from, int to) {
             setText(of.text, from, to > from ? to - from : 0);
-        }
-
-        private void keepRoom(int count) {
-            if (text.length < count) text = new byte[count <= STORED_BYTES ? STORED_BYTES : TEXT_BYTES];
         }
 
         int sign(int place) {
@@ -814,17 +843,13 @@ public final class SqlStore {
             return kind == INT && number == 0;
         }
 
-        boolean same(Value other) {
-            return order(other) == 0;
-        }
-
         int order(Value other) {
             if (kind != other.kind) return kind < other.kind ? -1 : 1;
             if (kind == NULL) return 0;
             if (kind == INT) return Long.compare(number, other.number);
             int both = Math.min(length, other.length);
-            for (int i = 0; i < both; i++) {
-                if (sign(i) != other.sign(i)) return sign(i) < other.sign(i) ? -1 : 1;
+            for (int i = 0; i < both && i < text.length && i < other.text.length; i++) {
+                if (text[i] != other.text[i]) return text[i] < other.text[i] ? -1 : 1;
             }
             return Integer.compare(length, other.length);
         }
@@ -832,17 +857,18 @@ public final class SqlStore {
         /** Puts it as it stands in a record; returns the place behind it. */
         int putRecord(byte[] to, int at) {
             if (kind == NULL) return putByte(to, at, 0);
-            if (kind == INT) return putBytes(to, putByte(to, at, numberBytes()), numberBytes());
+            if (kind == INT) {
+                int bytes = numberBytes();
+                return putNumber(to, putByte(to, at, bytes), bytes, 0);
+            }
             return putText(to, putByte(to, at, 16 + length));
         }
 
         /** Puts it as it stands in a key of an index; returns the place behind it. */
         int putKey(byte[] to, int at) {
             if (kind == NULL) return putByte(to, at, 0);
-            if (kind == TEXT) return putByte(to, putText(to, putByte(to, at, 2)), 0);
-            int behind = putBytes(to, putByte(to, at, 1), 8);
-            if (at + 1 < to.length) to[at + 1] = (byte) (to[at + 1] ^ 128);
-            return behind;
+            if (kind == INT) return putNumber(to, putByte(to, at, 1), 8, 128);
+            return putByte(to, putText(to, putByte(to, at, 2)), 0);
         }
 
         private int numberBytes() {
@@ -853,16 +879,20 @@ public final class SqlStore {
             return 8;
         }
 
-        private int putBytes(byte[] to, int at, int count) {
-            int behind = at;
-            for (int i = count - 1; i >= 0; i--) behind = putByte(to, behind, (int) (number >> (8 * i)) & 255);
-            return behind;
+        /** Puts the last bytes of the number, the highest one first and turned by a mask. */
+        private int putNumber(byte[] to, int at, int count, int turned) {
+            if (at < 0 || at > to.length - count) return at;
+            for (int i = 0; i < count; i++) {
+                int b = (int) (number >> (8 * (count - 1 - i))) & 255;
+                to[at + i] = (byte) (i == 0 ? b ^ turned : b);
+            }
+            return at + count;
         }
 
         private int putText(byte[] to, int at) {
-            int behind = at;
-            for (int i = 0; i < length; i++) behind = putByte(to, behind, sign(i));
-            return behind;
+            if (at < 0 || at > to.length - length || length > text.length) return at;
+            System.arraycopy(text, 0, to, at, length);
+            return at + length;
         }
 
         private static int putByte(byte[] to, int at, int b) {
@@ -878,9 +908,9 @@ public final class SqlStore {
             int head = from[at] & 255;
             if (head >= 16) {
                 setText(from, at + 1, head - 16);
-                return at + 1 + head - 16;
+                return at + head - 15;
             }
-            if (head == 0 || head > from.length - at - 1) return at + 1;
+            if (head == 0 || head > 8 || head > from.length - at - 1) return at + 1;
             long n = from[at + 1];
             for (int i = 2; i <= head; i++) n = n << 8 | from[at + i] & 255;
             setNumber(n);
@@ -912,26 +942,6 @@ public final class SqlStore {
         /** Its place among the values of a group; -1 if it is not taken from there. */
         int group;
         final Value value = new Value();
-
-        void begin(int newKind, int newPlace) {
-            kind = newKind;
-            place = newPlace;
-            start = newPlace;
-            height = 1;
-            type = NULL;
-            flags = 0;
-            name = 0;
-            second = 0;
-            secondPlace = newPlace;
-            first = null;
-            next = null;
-            link = null;
-            select = null;
-            source = null;
-            column = -1;
-            group = -1;
-            value.clear();
-        }
 
         Node part(int wanted) {
             for (Node n = first; n != null; n = n.next) {
@@ -1013,10 +1023,6 @@ public final class SqlStore {
 
         int width() {
             return Math.min(columns, ITEMS);
-        }
-
-        long nameOf(int column) {
-            return column >= 0 && column < width() ? names[column] : 0;
         }
 
         int typeOf(int column) {
@@ -1101,23 +1107,30 @@ public final class SqlStore {
         }
 
         int columnOf(long wanted) {
-            if (table != null) return table.columnOf(wanted);
-            return select != null ? select.columnOf(wanted) : -1;
+            if (table == null && select == null) return -1;
+            long[] names = table != null ? table.names : select.names;
+            int width = table != null ? table.columnCount : select.columns;
+            for (int i = 0; i < width && i < names.length; i++) {
+                if (names[i] == wanted) return i;
+            }
+            return -1;
         }
 
         int typeOf(int column) {
-            if (table != null) return table.typeOf(column);
-            return select != null ? select.typeOf(column) : NULL;
+            if (table == null && select == null) return NULL;
+            int[] types = table != null ? table.types : select.types;
+            return column >= 0 && column < types.length ? types[column] : NULL;
         }
 
         long nameOf(int column) {
-            if (table != null) return table.nameOf(column);
-            return select != null ? select.nameOf(column) : 0;
+            if (table == null && select == null) return 0;
+            long[] names = table != null ? table.names : select.names;
+            return column >= 0 && column < names.length ? names[column] : 0;
         }
 
         int width() {
             if (table != null) return table.columnCount;
-            return select != null ? select.width() : 0;
+            return select != null ? Math.min(select.columns, ITEMS) : 0;
         }
 
         /** Chooses the index by the conditions that count; they have been checked. */
@@ -1126,27 +1139,24 @@ public final class SqlStore {
             worth = 0;
             if (table == null) return;
             for (int i = 0; i < table.indexCount; i++) {
-                int found = worthOfIndex(i);
+                int width = table.widthOf(i);
+                int k = 0;
+                for (; k < width && usable(EQUAL, table.indexColumn(i, k)) != null; k++) {}
+                int found = 2 * k;
+                int column = table.indexColumn(i, k);
+                if (k < width && (usable(LOWER, column) != null || usable(UPPER, column) != null)) found++;
                 if (found > worth) {
                     worth = found;
                     index = i;
                 }
             }
-            if (index >= 0) keepParts();
         }
 
-        private int worthOfIndex(int i) {
-            int width = table.widthOf(i);
-            int k = 0;
-            for (; k < width && usable(EQUAL, table.indexColumn(i, k)) != null; k++) {}
-            if (k == width) return 2 * k;
-            int column = table.indexColumn(i, k);
-            return usable(LOWER, column) != null || usable(UPPER, column) != null ? 2 * k + 1 : 2 * k;
-        }
-
-        private void keepParts() {
-            int width = table.widthOf(index);
+        /** Keeps the parts by which the chosen index finds its entries. */
+        void keepParts() {
             equalCount = 0;
+            if (table == null || index < 0) return;
+            int width = table.widthOf(index);
             for (int k = 0; k < width && k < INDEX_NAMES; k++) {
                 Node part = usable(EQUAL, table.indexColumn(index, k));
                 if (part == null) break;
@@ -1178,19 +1188,15 @@ public final class SqlStore {
             Node a = part.first;
             Node b = a == null ? null : a.next;
             if (b == null) return null;
-            if (part.kind == W_BETWEEN) return boundBetween(part, role, column);
+            if (part.kind == W_BETWEEN) {
+                Node c = b.next;
+                if (c == null || role == EQUAL || part.flags != 0) return null;
+                if (!isColumn(a, column) || !isFree(b, 0) || !isFree(c, 0)) return null;
+                return role == LOWER ? b : c;
+            }
             if (isColumn(a, column) && roleOf(part.kind) == role && isFree(b, 0)) return b;
             if (isColumn(b, column) && mirrored(roleOf(part.kind)) == role && isFree(a, 0)) return a;
             return null;
-        }
-
-        private Node boundBetween(Node part, int role, int column) {
-            Node x = part.first;
-            Node e = x == null ? null : x.next;
-            Node f = e == null ? null : e.next;
-            if (f == null || role == EQUAL || part.flags != 0) return null;
-            if (!isColumn(x, column) || !isFree(e, 0) || !isFree(f, 0)) return null;
-            return role == LOWER ? e : f;
         }
 
         private static int roleOf(int operator) {
@@ -1231,6 +1237,8 @@ public final class SqlStore {
         long target;
         int columnCount;
         private final Node[] columns = new Node[TABLE_COLUMNS];
+        final long[] names = new long[TABLE_COLUMNS];
+        final int[] types = new int[TABLE_COLUMNS];
         Node rules;
         final int[] roots = new int[INDICES];
         int rootCount;
@@ -1279,8 +1287,11 @@ public final class SqlStore {
             target = s.target;
             if (kind != TABLE) return;
             rules = s.more;
-            for (Node n = s.list; n != null; n = n.next) {
-                if (columnCount < TABLE_COLUMNS) columns[columnCount++] = n;
+            for (Node n = s.list; n != null && columnCount < TABLE_COLUMNS; n = n.next) {
+                columns[columnCount] = n;
+                names[columnCount] = n.name;
+                types[columnCount] = n.type;
+                columnCount++;
             }
             addOwnIndices();
             source.table = this;
@@ -1292,12 +1303,16 @@ public final class SqlStore {
 
         void shareColumns(Definition other) {
             columnCount = other.columnCount;
-            for (int i = 0; i < columnCount && i < TABLE_COLUMNS; i++) columns[i] = other.columns[i];
+            for (int i = 0; i < columnCount && i < TABLE_COLUMNS; i++) {
+                columns[i] = other.columns[i];
+                names[i] = other.names[i];
+                types[i] = other.types[i];
+            }
         }
 
         private void addOwnIndices() {
             for (int i = 0; i < columnCount; i++) {
-                if (columns[i].has(UNIQUE)) addIndex(rootOfTree(1 + indexCount), true, null, columns[i].name);
+                if (columns[i].has(UNIQUE)) addIndex(rootOfTree(1 + indexCount), true, null, names[i]);
             }
             for (Node rule = rules; rule != null; rule = rule.next) {
                 if (rule.kind == W_UNIQUE) addIndex(rootOfTree(1 + indexCount), true, rule.first, 0);
@@ -1325,17 +1340,13 @@ public final class SqlStore {
 
         int columnOf(long wanted) {
             for (int i = 0; i < columnCount; i++) {
-                if (columns[i].name == wanted) return i;
+                if (names[i] == wanted) return i;
             }
             return -1;
         }
 
         int typeOf(int i) {
-            return i >= 0 && i < columnCount ? columns[i].type : NULL;
-        }
-
-        long nameOf(int i) {
-            return i >= 0 && i < columnCount ? columns[i].name : 0;
+            return i >= 0 && i < columnCount ? types[i] : NULL;
         }
 
         int rootOfIndex(int i) {
@@ -1426,15 +1437,17 @@ public final class SqlStore {
         final Statement statement = new Statement();
         int errorPlace;
         private final byte[] text = new byte[TAPE];
-        private final byte[] plain = new byte[QUOTED_BYTES];
         private int length;
-        private int at;
+        /** The tokens of the text, with the end behind them: what they are, where they stand, what they tell. */
+        private final int[] tokens = new int[TAPE + 1];
+        private final int[] places = new int[TAPE + 1];
+        private final long[] values = new long[TAPE + 1];
+        private int tokenCount;
+        /** The token that is looked at, and how many have been, it counted. */
         private int token;
         private int place;
-        /** Where the token ahead ended. */
-        private int last;
-        /** The name or number that the token tells. */
         private long value;
+        private int looked;
         private final long[] words = new long[WORD_COUNT];
         private int open;
         /** The first place of something too high. */
@@ -1443,11 +1456,10 @@ public final class SqlStore {
         private Select core;
         private boolean inView;
         private final ArrayList<Node> nodes = new ArrayList<Node>();
-        private int nodeCount;
         private final ArrayList<Select> selects = new ArrayList<Select>();
-        private int selectCount;
         private final ArrayList<Source> sources = new ArrayList<Source>();
-        private int sourceCount;
+        /** How many nodes, selects and sources are taken. */
+        private final int[] taken = new int[3];
 
         Parser() {
             int word = 0;
@@ -1455,7 +1467,7 @@ public final class SqlStore {
             for (int i = 0; i < WORDS.length() && word < WORD_COUNT; i++) {
                 char c = WORDS.charAt(i);
                 if (c == ' ') {
-                    words[word] = aligned(words[word], letters);
+                    words[word] <<= 6 * (NAME_BYTES - letters);
                     word++;
                     letters = 0;
                 } else {
@@ -1466,17 +1478,36 @@ public final class SqlStore {
         }
 
         void clear() {
-            nodeCount = 0;
-            selectCount = 0;
-            sourceCount = 0;
+            taken[0] = 0;
+            taken[1] = 0;
+            taken[2] = 0;
         }
 
         /** Reads a text as a statement; returns error 1 or 2, or 0 for none. */
         int read(byte[] from, int begin, int count) {
-            take(from, begin, count);
             statement.clear();
             inView = false;
-            if (!readsStatement()) {
+            splitText(from, begin, count);
+            reserveNodes();
+            statement.begin = places[0];
+            try {
+                statement.kind = kindOfStatement();
+                switch (statement.kind) {
+                    case W_TABLE: createTable(); break;
+                    case W_INDEX: createIndex(); break;
+                    case W_VIEW: createView(); break;
+                    case W_DROP: drop(); break;
+                    case W_INSERT: insert(); break;
+                    case W_UPDATE: update(); break;
+                    case W_DELETE: delete(); break;
+                    case W_SELECT: statement.query = query(); break;
+                    case W_ROLLBACK: rollback(); break;
+                    case W_SAVEPOINT: case W_RELEASE: nameOfStatement(); break;
+                    case W_BEGIN: case W_COMMIT: break;
+                    default: fail();
+                }
+                if (token != END) fail();
+            } catch (IllegalStateException e) {
                 errorPlace = place;
                 return ERROR_GRAMMAR;
             }
@@ -1486,34 +1517,10 @@ public final class SqlStore {
 
         /** Reads the query of a view from the text that made it; null if it is none. */
         Select readView(byte[] from, int begin, int count) {
-            take(from, begin, count);
             inView = true;
-            return viewQuery();
-        }
-
-        private void take(byte[] from, int begin, int count) {
-            length = 0;
-            at = 0;
-            open = 0;
-            tall = TAPE + 1;
-            core = null;
-            if (begin < 0 || count < 0 || count > TAPE || begin > from.length - count) return;
-            System.arraycopy(from, begin, text, 0, count);
-            length = count;
-        }
-
-        private boolean readsStatement() {
+            splitText(from, begin, count);
+            reserveNodes();
             try {
-                wholeStatement();
-                return true;
-            } catch (IllegalStateException e) {
-                return false;
-            }
-        }
-
-        private Select viewQuery() {
-            try {
-                advance();
                 expect(W_CREATE);
                 expect(W_VIEW);
                 takeName();
@@ -1530,45 +1537,83 @@ public final class SqlStore {
 
         // ---- what texts are read into
 
+        /** No text has more nodes than two for each token. */
+        private void reserveNodes() {
+            int most = taken[0] + 2 * tokenCount;
+            for (int i = nodes.size(); i < most; i++) nodes.add(new Node());
+        }
+
         private Node node(int kind, int nodePlace) {
-            if (nodeCount == nodes.size()) nodes.add(new Node());
-            Node n = nodes.get(nodeCount++);
-            n.begin(kind, nodePlace);
+            if (taken[0] >= nodes.size()) throw new IllegalStateException();
+            Node n = nodes.get(taken[0]++);
+            n.kind = kind;
+            n.place = nodePlace;
+            n.start = nodePlace;
+            n.height = 1;
+            n.type = NULL;
+            n.flags = 0;
+            n.name = 0;
+            n.second = 0;
+            n.secondPlace = nodePlace;
+            n.first = null;
+            n.next = null;
+            n.link = null;
+            n.select = null;
+            n.source = null;
+            n.column = -1;
+            n.group = -1;
+            n.value.kind = NULL;
+            n.value.length = 0;
             return n;
         }
 
         private Select select(int selectPlace) {
-            if (selectCount == selects.size()) selects.add(new Select());
-            Select s = selects.get(selectCount++);
+            if (taken[1] >= selects.size()) selects.add(new Select());
+            Select s = selects.get(taken[1]++);
             s.begin(selectPlace);
             return s;
         }
 
         private Source source(int sourcePlace) {
-            if (sourceCount == sources.size()) sources.add(new Source());
-            Source s = sources.get(sourceCount++);
+            if (taken[2] >= sources.size()) sources.add(new Source());
+            Source s = sources.get(taken[2]++);
             s.begin(sourcePlace);
             return s;
         }
 
         // ---- tokens
 
-        private void advance() {
-            last = at;
-            for (; at < length && (text[at] == ' ' || text[at] == '\n'); at++) {}
-            place = at;
-            int b = peek(0);
-            if (at >= length) token = END;
-            else if (isLetter(b)) readWord();
-            else if (isDigit(b)) readNumber();
-            else if (b == '\'') readQuoted();
-            else readSign(b);
+        /** Splits a text into its tokens, as far as none is wrong, and looks at the first one. */
+        private void splitText(byte[] from, int begin, int count) {
+            length = 0;
+            tokenCount = 0;
+            looked = 0;
+            open = 0;
+            tall = TAPE + 1;
+            core = null;
+            if (begin >= 0 && count >= 0 && count <= TAPE && begin <= from.length - count) {
+                System.arraycopy(from, begin, text, 0, count);
+                length = count;
+            }
+            int at = 0;
+            for (int i = 0; i <= TAPE; i++) {
+                for (; at < length && (text[at] == ' ' || text[at] == '\n'); at++) {}
+                int b = byteOf(at);
+                places[i] = at;
+                tokens[i] = at >= length ? END : WRONG;
+                if (isLetter(b)) at = readWord(at, i);
+                else if (isDigit(b)) at = readNumber(at, i);
+                else if (b == '\'') at = readQuoted(at, i);
+                else if (b != 0) at = readSign(at, i);
+                tokenCount = i + 1;
+                if (tokens[i] <= WRONG) break;
+                statement.end = inView ? statement.end : at;
+            }
+            advance();
         }
 
-        /** The byte so far behind the place where reading stands; 0 behind the end. */
-        private int peek(int ahead) {
-            int i = at + ahead;
-            return i >= 0 && i < length && i < TAPE ? text[i] & 255 : 0;
+        private int byteOf(int at) {
+            return at >= 0 && at < length && at < TAPE ? text[at] & 255 : 0;
         }
 
         private static boolean isLetter(int b) {
@@ -1579,33 +1624,29 @@ public final class SqlStore {
             return b >= '0' && b <= '9';
         }
 
+        /** Names are numbers, six bits for each byte, in the order of texts; 0 for a byte that no word has. */
         private static int letterCode(int b) {
-            if (isLetter(b)) return b - 'a' + 1;
-            return isDigit(b) ? b - '0' + 27 : 37;
+            if (b >= 'a' && b <= 'z') return b - 'a' + 1;
+            if (b >= '0' && b <= '9') return b - '0' + 27;
+            return b == '_' ? 37 : 0;
         }
 
-        /** Names are numbers, six bits for each byte, in the order of texts. */
-        private static long aligned(long name, int bytes) {
-            return bytes > NAME_BYTES ? name : name << 6 * (NAME_BYTES - bytes);
-        }
-
-        private void readWord() {
+        private int readWord(int from, int i) {
             long name = 0;
-            int count = 0;
-            for (; at < length && (isLetter(peek(0)) || isDigit(peek(0)) || peek(0) == '_'); at++) {
-                name = name * 64 + letterCode(peek(0));
-                count++;
-            }
-            value = aligned(name, count);
-            token = count > NAME_BYTES ? WRONG : wordOf(value);
+            int at = from;
+            for (; at < length && letterCode(byteOf(at)) > 0; at++) name = name * 64 + letterCode(byteOf(at));
+            if (at - from > NAME_BYTES) return at;
+            values[i] = name << 6 * (NAME_BYTES - at + from);
+            tokens[i] = wordOf(values[i]);
+            return at;
         }
 
         private int wordOf(long name) {
             int low = 0;
             int high = WORD_COUNT - 1;
             for (int i = 0; low <= high && i < WORD_COUNT; i++) {
-                int middle = (low + high) >>> 1;
-                if (middle >= words.length) return NAME;
+                int middle = (low + high) / 2;
+                if (middle < 0 || middle >= words.length) return NAME;
                 if (words[middle] == name) return FIRST_WORD + middle;
                 if (words[middle] < name) low = middle + 1;
                 else high = middle - 1;
@@ -1613,51 +1654,59 @@ public final class SqlStore {
             return NAME;
         }
 
-        private void readNumber() {
-            int from = at;
-            value = 0;
-            for (; at < length && isDigit(peek(0)); at++) value = value * 10 + (peek(0) - '0');
-            token = at - from > NUMBER_DIGITS ? WRONG : NUMBER;
+        private int readNumber(int from, int i) {
+            int at = from;
+            values[i] = 0;
+            for (; at < length && isDigit(byteOf(at)); at++) values[i] = values[i] * 10 + byteOf(at) - '0';
+            if (at - from <= NUMBER_DIGITS) tokens[i] = NUMBER;
+            return at;
         }
 
-        private void readQuoted() {
+        /** A quoted text tells where it ends. */
+        private int readQuoted(int from, int i) {
             int count = 0;
-            token = WRONG;
-            at++;
-            for (; at < length; at++) {
-                int b = peek(0);
-                if (b < 32 || b > 126) return;
-                if (b == '\'' && peek(1) != '\'') {
-                    at++;
-                    if (count <= QUOTED_BYTES) token = QUOTED;
-                    return;
+            for (int at = from + 1; at < length; at++) {
+                int b = byteOf(at);
+                if (b < 32 || b > 126) return at;
+                if (b == '\'' && byteOf(at + 1) != '\'') {
+                    values[i] = at;
+                    if (count <= QUOTED_BYTES) tokens[i] = QUOTED;
+                    return at + 1;
                 }
                 if (b == '\'') at++;
                 count++;
             }
+            return length;
         }
 
-        private void readSign(int b) {
-            at++;
-            int behind = peek(0);
+        private int readSign(int from, int i) {
+            int b = byteOf(from);
+            int behind = byteOf(from + 1);
             switch (b) {
                 case '(': case ')': case ',': case '.': case '*': case '+': case '-': case '/': case '%': case '=':
                 case '?': case '$':
-                    token = b;
+                    tokens[i] = b;
                     break;
                 case '<':
-                    token = behind == '=' ? LESS_EQUAL : behind == '>' ? NOT_EQUAL : b;
+                    tokens[i] = behind == '=' ? LESS_EQUAL : behind == '>' ? NOT_EQUAL : b;
                     break;
                 case '>':
-                    token = behind == '=' ? GREATER_EQUAL : b;
+                    tokens[i] = behind == '=' ? GREATER_EQUAL : b;
                     break;
                 case '|':
-                    token = behind == '|' ? BARS : WRONG;
+                    if (behind == '|') tokens[i] = BARS;
                     break;
                 default:
-                    token = WRONG;
             }
-            if (token == LESS_EQUAL || token == NOT_EQUAL || token == GREATER_EQUAL || token == BARS) at++;
+            return tokens[i] >= LESS_EQUAL && tokens[i] <= BARS ? from + 2 : from + 1;
+        }
+
+        private void advance() {
+            if (looked >= tokenCount || looked > TAPE) return;
+            token = tokens[looked];
+            place = places[looked];
+            value = values[looked];
+            looked++;
         }
 
         private void expect(int wanted) {
@@ -1693,24 +1742,30 @@ public final class SqlStore {
 
         // ---- statements
 
-        private void wholeStatement() {
-            advance();
-            statement.begin = place;
-            statement.kind = token;
-            switch (token) {
-                case W_CREATE: create(); break;
-                case W_DROP: drop(); break;
-                case W_INSERT: insert(); break;
-                case W_UPDATE: update(); break;
-                case W_DELETE: delete(); break;
-                case W_SELECT: statement.query = query(); break;
-                case W_BEGIN: case W_COMMIT: advance(); break;
-                case W_ROLLBACK: rollback(); break;
-                case W_SAVEPOINT: case W_RELEASE: advance(); nameOfStatement(); break;
-                default: fail();
+        /** Passes the words that tell what a statement is; of a select nothing. */
+        private int kindOfStatement() {
+            int first = token;
+            switch (first) {
+                case W_SELECT:
+                    return first;
+                case W_CREATE:
+                    advance();
+                    break;
+                case W_DROP: case W_INSERT: case W_UPDATE: case W_DELETE: case W_ROLLBACK: case W_SAVEPOINT:
+                case W_RELEASE: case W_BEGIN: case W_COMMIT:
+                    advance();
+                    return first;
+                default:
+                    fail();
             }
-            if (token != END) fail();
-            statement.end = last;
+            if (passes(W_UNIQUE)) {
+                statement.mode = W_UNIQUE;
+                if (token != W_INDEX) fail();
+            }
+            if (token != W_TABLE && token != W_INDEX && token != W_VIEW) fail();
+            int made = token;
+            advance();
+            return made;
         }
 
         private void nameOfStatement() {
@@ -1724,22 +1779,9 @@ public final class SqlStore {
         }
 
         private void rollback() {
-            advance();
             if (!passes(W_TO)) return;
             statement.mode = W_TO;
             nameOfStatement();
-        }
-
-        private void create() {
-            advance();
-            statement.kind = token == W_UNIQUE ? W_INDEX : token;
-            switch (token) {
-                case W_TABLE: advance(); createTable(); break;
-                case W_UNIQUE: statement.mode = W_UNIQUE; advance(); createIndex(); break;
-                case W_INDEX: createIndex(); break;
-                case W_VIEW: advance(); createView(); break;
-                default: fail();
-            }
         }
 
         private void createTable() {
@@ -1800,7 +1842,7 @@ public final class SqlStore {
                 fail();
             } else if (token == QUOTED) {
                 d.type = TEXT;
-                readText(d.value);
+                d.value.setQuoted(text, place + 1, (int) value);
             } else if (token != W_NULL) {
                 fail();
             }
@@ -1835,25 +1877,20 @@ public final class SqlStore {
         }
 
         private Node names(int most) {
-            Node first = oneName();
-            Node tail = first;
-            for (int i = 1; token == ',' && i < TAPE; i++) {
-                advance();
+            Node first = null;
+            Node tail = null;
+            for (int i = 0; i < TAPE && (i == 0 || passes(',')); i++) {
                 if (i >= most) fail();
-                tail.next = oneName();
-                tail = tail.next;
+                Node n = node(NAME, place);
+                n.name = takeName();
+                if (tail == null) first = n;
+                else tail.next = n;
+                tail = n;
             }
             return first;
         }
 
-        private Node oneName() {
-            Node n = node(NAME, place);
-            n.name = takeName();
-            return n;
-        }
-
         private void createIndex() {
-            expect(W_INDEX);
             nameOfStatement();
             expect(W_ON);
             targetOfStatement();
@@ -1869,7 +1906,6 @@ public final class SqlStore {
         }
 
         private void drop() {
-            advance();
             if (token != W_TABLE && token != W_INDEX && token != W_VIEW) fail();
             statement.mode = token;
             advance();
@@ -1877,7 +1913,6 @@ public final class SqlStore {
         }
 
         private void insert() {
-            advance();
             if (passes(W_OR)) {
                 statement.mode = token;
                 if (!passes(W_IGNORE)) expect(W_REPLACE);
@@ -1913,7 +1948,6 @@ public final class SqlStore {
         }
 
         private void update() {
-            advance();
             targetOfStatement();
             seeTarget();
             expect(W_SET);
@@ -1937,7 +1971,6 @@ public final class SqlStore {
         }
 
         private void delete() {
-            advance();
             expect(W_FROM);
             targetOfStatement();
             seeTarget();
@@ -1971,32 +2004,26 @@ public final class SqlStore {
                 tail = tail.next;
                 tail.operator = operator;
             }
+            Node last = null;
             if (passes(W_ORDER)) {
                 expect(W_BY);
-                first.tail = keys();
+                for (int i = 0; i < TAPE && (i == 0 || passes(',')); i++) {
+                    if (i >= KEYS) fail();
+                    last = behind(first, last, key());
+                }
             }
-            if (token == W_LIMIT) first.tail = behind(first.tail, limit());
+            if (token == W_LIMIT) {
+                last = behind(first, last, many());
+                if (token == W_OFFSET) behind(first, last, many());
+            }
             return first;
         }
 
-        private static Node behind(Node list, Node added) {
-            if (list == null) return added;
-            Node n = list;
-            for (; n.next != null; n = n.next) {}
-            n.next = added;
-            return list;
-        }
-
-        private Node keys() {
-            Node first = key();
-            Node tail = first;
-            for (int i = 1; token == ',' && i < TAPE; i++) {
-                advance();
-                if (i >= KEYS) fail();
-                tail.next = key();
-                tail = tail.next;
-            }
-            return first;
+        /** Puts a node behind the last one of the tail of a query; returns it. */
+        private static Node behind(Select q, Node last, Node added) {
+            if (last == null) q.tail = added;
+            else last.next = added;
+            return added;
         }
 
         private Node key() {
@@ -2006,12 +2033,6 @@ public final class SqlStore {
             advance();
             if (passes(W_DESC)) k.flags = W_DESC;
             return k;
-        }
-
-        private Node limit() {
-            Node n = many();
-            if (token == W_OFFSET) n.next = many();
-            return n;
         }
 
         /** The word limit or offset, and how many. */
@@ -2035,7 +2056,14 @@ public final class SqlStore {
             if (token == W_WHERE) c.where = condition();
             if (passes(W_GROUP)) {
                 expect(W_BY);
-                c.groups = groupRefs();
+                Node tail = null;
+                for (int i = 0; i < TAPE && (i == 0 || passes(',')); i++) {
+                    if (i >= GROUP_REFS) fail();
+                    Node n = ref();
+                    if (tail == null) c.groups = n;
+                    else tail.next = n;
+                    tail = n;
+                }
             }
             if (token == W_HAVING) c.having = condition();
             core = outer;
@@ -2106,18 +2134,6 @@ public final class SqlStore {
             if (token != W_ON) fail();
             s.on = condition();
             return s;
-        }
-
-        private Node groupRefs() {
-            Node first = ref();
-            Node tail = first;
-            for (int i = 1; token == ',' && i < TAPE; i++) {
-                advance();
-                if (i >= GROUP_REFS) fail();
-                tail.next = ref();
-                tail = tail.next;
-            }
-            return first;
         }
 
         private Node ref() {
@@ -2310,19 +2326,9 @@ public final class SqlStore {
 
         private Node quoted() {
             Node n = node(QUOTED, place);
-            readText(n.value);
+            n.value.setQuoted(text, place + 1, (int) value);
             advance();
             return n;
-        }
-
-        /** The text of the quoted text that is the token. */
-        private void readText(Value to) {
-            int count = 0;
-            for (int i = place + 1; i < at - 1 && i < TAPE && count < plain.length; i++) {
-                plain[count++] = text[i];
-                if (text[i] == '\'') i++;
-            }
-            to.setText(plain, 0, count);
         }
 
         private Node nothing() {
@@ -2448,7 +2454,6 @@ public final class SqlStore {
         private int error;
         private final Tree tree;
         private final Parser parser;
-        private final Parser reader = new Parser();
         private final byte[] known = new byte[PAGES * PAGE];
         private int knownLength;
         private final byte[] fresh = new byte[PAGES * PAGE];
@@ -2466,26 +2471,19 @@ public final class SqlStore {
 
         // ---- definitions
 
-        /** Reads the definitions, if they are not those that are known. */
-        void learn() {
-            collectCells();
-            if (isKnown()) return;
-            System.arraycopy(fresh, 0, known, 0, freshLength);
-            knownLength = freshLength;
-            reader.clear();
-            splitCells();
-            for (int i = 0; i < definitionCount; i++) interpret(definitions[i]);
-            for (int i = 0; i < definitionCount; i++) attach(definitions[i]);
-            for (int i = 0; i < definitionCount; i++) resolveRules(definitions[i]);
-        }
-
-        private void collectCells() {
+        /** Whether the definitions are those that were read last; otherwise they are to be read anew. */
+        boolean isUpToDate() {
             freshLength = 0;
             tree.seekFirst(1);
             for (int i = 0; tree.cell >= 0 && i < PAGES * PAGE; i++) {
                 freshLength += tree.copyCell(fresh, freshLength);
                 tree.next();
             }
+            if (isKnown()) return true;
+            System.arraycopy(fresh, 0, known, 0, freshLength);
+            knownLength = freshLength;
+            splitCells();
+            return false;
         }
 
         private boolean isKnown() {
@@ -2528,12 +2526,18 @@ public final class SqlStore {
             }
         }
 
-        private void interpret(Definition d) {
-            if (reader.read(texts, d.textAt, d.textLength) != 0) return;
-            d.fill(reader.statement);
+        /** Takes what the text of a definition was read as. */
+        void interpret(Definition d, Statement s) {
+            d.fill(s);
             if (d.kind != INDEX) return;
-            d.rules = reader.statement.list;
-            d.ownCount = reader.statement.mode;
+            d.rules = s.list;
+            d.ownCount = s.mode;
+        }
+
+        /** Brings the definitions together, all of which have been interpreted. */
+        void connect() {
+            for (int i = 0; i < definitionCount; i++) attach(definitions[i]);
+            for (int i = 0; i < definitionCount; i++) resolveRules(definitions[i]);
         }
 
         /** Tells a table of an index that was created on it. */
@@ -2543,20 +2547,16 @@ public final class SqlStore {
             if (table != null) table.addIndex(d.root(), d.ownCount == W_UNIQUE, d.rules, 0);
         }
 
+        /** Binds the refs of checks to the row that the definition has for them. */
         private void resolveRules(Definition d) {
             if (d.kind != TABLE) return;
             creating = false;
-            checksRules(d);
-        }
-
-        private boolean checksRules(Definition d) {
             try {
                 for (Node rule = d.rules; rule != null; rule = rule.next) {
                     if (rule.kind == W_CHECK) expression(rule.first, d.scope, 0);
                 }
-                return true;
             } catch (IllegalStateException e) {
-                return false;
+                d.rules = null;
             }
         }
 
@@ -2589,36 +2589,28 @@ public final class SqlStore {
             begun = 0;
             creating = s.isCreate();
             inRule = false;
-            return passesCheck(s) ? 0 : error;
-        }
-
-        private boolean passesCheck(Statement s) {
             try {
-                statement(s);
-                return true;
+                switch (s.kind) {
+                    case W_TABLE: createTable(s); break;
+                    case W_INDEX: createIndex(s); break;
+                    case W_VIEW: createView(s); break;
+                    case W_DROP: drop(s); break;
+                    case W_INSERT: insert(s); break;
+                    case W_UPDATE: update(s); break;
+                    case W_DELETE: delete(s); break;
+                    case W_SELECT: query(s.query, null, 1, 0); break;
+                    default: break;
+                }
             } catch (IllegalStateException e) {
-                return false;
+                return error;
             }
+            return 0;
         }
 
         private void fail(int newError, int place) {
             error = newError;
             errorPlace = place;
             throw new IllegalStateException();
-        }
-
-        private void statement(Statement s) {
-            switch (s.kind) {
-                case W_TABLE: createTable(s); break;
-                case W_INDEX: createIndex(s); break;
-                case W_VIEW: createView(s); break;
-                case W_DROP: drop(s); break;
-                case W_INSERT: insert(s); break;
-                case W_UPDATE: update(s); break;
-                case W_DELETE: delete(s); break;
-                case W_SELECT: query(s.query, null, 1, 0); break;
-                default: break;
-            }
         }
 
         private void newName(Statement s) {
@@ -2750,34 +2742,34 @@ public final class SqlStore {
         }
 
         private void update(Statement s) {
-            seeTarget(s);
-            Definition d = target(s);
+            Source source = targetSource(s);
+            Definition d = source == null ? null : source.table;
             if (d == null) return;
             for (Node n = s.list; n != null; n = n.next) {
                 n.column = d.columnOf(n.name);
                 if (n.column < 0 || isNameAhead(s.list, n)) fail(ERROR_NAME, n.place);
                 if (!fits(expression(n.first, s.scope, 0), d.typeOf(n.column))) fail(ERROR_TYPE, n.place);
             }
-            whereOfTarget(s);
+            condition(s.scope.where, s.scope, 0);
+            source.choose();
+            source.keepParts();
         }
 
         private void delete(Statement s) {
-            seeTarget(s);
-            whereOfTarget(s);
+            Source source = targetSource(s);
+            if (source == null) return;
+            condition(s.scope.where, s.scope, 0);
+            source.choose();
+            source.keepParts();
         }
 
-        private void seeTarget(Statement s) {
+        private Source targetSource(Statement s) {
             Source source = s.scope == null ? null : s.scope.sources;
-            if (source == null) return;
+            if (source == null) return null;
             source.table = target(s);
             source.owner = s.scope;
             source.seen = true;
-        }
-
-        private void whereOfTarget(Statement s) {
-            if (s.scope == null) return;
-            condition(s.scope.where, s.scope, 0);
-            if (s.scope.sources != null) s.scope.sources.choose();
+            return source;
         }
 
         // ---- queries
@@ -2837,7 +2829,10 @@ public final class SqlStore {
             for (Node n = c.items; n != null; n = n.next) item(c, n, depth);
             condition(c.having, c, depth);
             c.part = PART_CONDITION;
-            for (Source s = c.sources; s != null; s = s.next) s.choose();
+            for (Source s = c.sources; s != null; s = s.next) {
+                s.choose();
+                s.keepParts();
+            }
         }
 
         private void condition(Node n, Select scope, int depth) {
@@ -3059,7 +3054,8 @@ public final class SqlStore {
 
     /** Trees in the pages of an image, and the cell of a leaf where a walk through one of them stands. */
     private static final class Tree {
-        byte[] image = NO_BYTES;
+        /** Has room for 64 pages, so that each place that is cut to IN_IMAGE lies in it. */
+        private byte[] image = new byte[IMAGE];
         /** Where in the image the cell stands; -1 behind the last one. */
         int cell = -1;
         final int[] found = new int[PAGES];
@@ -3073,33 +3069,43 @@ public final class SqlStore {
         private final byte[] fresh = new byte[PAGE];
         private int freshLength;
         private final int[] pending = new int[2 * PAGES];
-        private final byte[] twoBytes = new byte[2];
+
+        void show(byte[] pages) {
+            if (pages != null && pages.length == IMAGE) image = pages;
+        }
+
+        byte[] shown() {
+            return image;
+        }
 
         int at(int place) {
-            return place >= 0 && place < image.length ? image[place] & 255 : 0;
+            return image[place & IN_IMAGE] & 255;
         }
 
         private void set(int place, int b) {
-            if (place >= 0 && place < image.length) image[place] = (byte) b;
+            image[place & IN_IMAGE] = (byte) b;
         }
 
+        /** How many cells a page has. */
         private int count(int page) {
-            return at(page * PAGE + 1);
+            return image[page * PAGE + 1 & IN_IMAGE] & 255;
         }
 
         boolean isInner(int page) {
-            return at(page * PAGE) == INNER;
+            return image[page * PAGE & IN_IMAGE] == INNER;
         }
 
-        int cellBytes(int place, boolean inner) {
-            return 2 + at(place) + (inner ? 0 : at(place + 1));
+        private int firstChild(int page) {
+            return image[page * PAGE + 2 & IN_IMAGE] & 255;
         }
 
         /** Where the cell of this number stands in a page; with the number of all, where the next one would. */
         private int placeOf(int page, int number) {
-            boolean inner = isInner(page);
+            boolean inner = image[page * PAGE & IN_IMAGE] == INNER;
             int place = page * PAGE + HEADER;
-            for (int i = 0; i < number && i < PAGE; i++) place += cellBytes(place, inner);
+            for (int i = 0; i < number && i < PAGE; i++) {
+                place += 2 + (image[place & IN_IMAGE] & 255) + (inner ? 0 : image[place + 1 & IN_IMAGE] & 255);
+            }
             return place;
         }
 
@@ -3108,7 +3114,7 @@ public final class SqlStore {
         }
 
         private int childOf(int page, int slot) {
-            return slot < 0 ? at(page * PAGE + 2) : at(placeOf(page, slot) + 1);
+            return slot < 0 ? firstChild(page) : at(placeOf(page, slot) + 1);
         }
 
         // ---- pages
@@ -3120,14 +3126,14 @@ public final class SqlStore {
         int freeCount() {
             int n = 0;
             int page = at(2);
-            for (; page != 0 && n < PAGES; n++) page = at(page * PAGE + 2);
+            for (; page != 0 && n < PAGES; n++) page = firstChild(page);
             return n;
         }
 
         private int takePage() {
             int page = at(2);
             if (page != 0) {
-                set(2, at(page * PAGE + 2));
+                set(2, firstChild(page));
                 return page;
             }
             page = at(1);
@@ -3142,43 +3148,39 @@ public final class SqlStore {
             return page;
         }
 
-        private void clearPage(int page) {
-            if (page < 0 || (page + 1) * PAGE > image.length) return;
-            Arrays.fill(image, page * PAGE, (page + 1) * PAGE, (byte) 0);
-        }
-
         private void freePage(int page) {
-            clearPage(page);
-            set(page * PAGE + 2, at(2));
+            writePage(page, 0, at(2), 0, 0, 0);
             set(2, page);
         }
 
         /** Writes a page with the joined cells from one place to another. */
         private void writePage(int page, int kind, int firstChild, int from, int to, int cells) {
-            clearPage(page);
-            set(page * PAGE, kind);
-            set(page * PAGE + 1, cells);
-            set(page * PAGE + 2, firstChild);
-            for (int i = from; i < to && i < joined.length; i++) set(page * PAGE + HEADER + i - from, joined[i]);
+            int start = page * PAGE;
+            for (int i = 0; i < PAGE; i++) image[start + i & IN_IMAGE] = 0;
+            image[start & IN_IMAGE] = (byte) kind;
+            image[start + 1 & IN_IMAGE] = (byte) cells;
+            image[start + 2 & IN_IMAGE] = (byte) firstChild;
+            for (int i = from; i < to && i >= 0 && i < joined.length; i++) {
+                image[start + HEADER + i - from & IN_IMAGE] = joined[i];
+            }
         }
 
         // ---- looking
 
         /** Compares the key of a cell with another one. */
         int compare(int place, byte[] key, int length) {
-            int own = at(place);
-            int both = Math.min(Math.min(own, length), key.length);
-            for (int i = 0; i < both; i++) {
-                int difference = at(place + 2 + i) - (key[i] & 255);
+            int own = image[place & IN_IMAGE] & 255;
+            for (int i = 0; i < own && i < length && i < key.length; i++) {
+                int difference = (image[place + 2 + i & IN_IMAGE] & 255) - (key[i] & 255);
                 if (difference != 0) return difference;
             }
             return own - length;
         }
 
         boolean startsWith(int place, byte[] key, int length) {
-            if (at(place) < length || length > key.length) return false;
+            if (length > key.length || (image[place & IN_IMAGE] & 255) < length) return false;
             for (int i = 0; i < length; i++) {
-                if (at(place + 2 + i) != (key[i] & 255)) return false;
+                if (image[place + 2 + i & IN_IMAGE] != key[i]) return false;
             }
             return true;
         }
@@ -3191,12 +3193,12 @@ public final class SqlStore {
                 depth = level;
                 boolean inner = isInner(page);
                 int cells = count(page);
-                int child = at(page * PAGE + 2);
+                int child = firstChild(page);
                 int place = page * PAGE + HEADER;
                 int i = 0;
                 for (; i < cells && compare(place, key, length) < (inner ? 1 : 0); i++) {
                     child = at(place + 1);
-                    place += cellBytes(place, inner);
+                    place += 2 + at(place) + (inner ? 0 : child);
                 }
                 slots[level] = inner ? i - 1 : i;
                 if (!inner) {
@@ -3215,24 +3217,14 @@ public final class SqlStore {
         }
 
         void seekFirst(int root) {
-            seek(root, NO_BYTES, 0);
+            descend(root, NO_BYTES, 0);
+            if (cell < 0) nextLeaf();
         }
 
-        /** Goes to the first cell of a row with this number or a greater one. */
-        void seekRow(int root, int number) {
-            setNumber(number);
-            seek(root, twoBytes, 2);
-        }
-
-        private void setNumber(int number) {
-            twoBytes[0] = (byte) (number >> 8);
-            twoBytes[1] = (byte) number;
-        }
-
-        /** Where the cell of the row with this number stands; -1 if there is none. */
-        int findRow(int root, int number) {
-            seekRow(root, number);
-            return cell >= 0 && compare(cell, twoBytes, 2) == 0 ? cell : -1;
+        /** Where the cell with this key stands; -1 if there is none. */
+        int find(int root, byte[] key, int length) {
+            descend(root, key, length);
+            return cell >= 0 && compare(cell, key, length) == 0 ? cell : -1;
         }
 
         /** The number of a row, which the key of a cell ends with. */
@@ -3242,9 +3234,9 @@ public final class SqlStore {
         }
 
         void next() {
-            if (cell < 0 || depth >= PAGES) return;
+            if (cell < 0 || depth < 0 || depth >= PAGES) return;
             slots[depth]++;
-            cell += cellBytes(cell, false);
+            cell += 2 + at(cell) + at(cell + 1);
             if (slots[depth] >= count(path[depth])) nextLeaf();
         }
 
@@ -3256,39 +3248,42 @@ public final class SqlStore {
                 for (; level >= 0 && level < PAGES && slots[level] + 1 >= count(path[level]); level--) {}
                 if (level < 0 || level >= PAGES - 1) return;
                 slots[level]++;
-                int page = childOf(path[level], slots[level]);
+                int page = image[placeOf(path[level], slots[level]) + 1 & IN_IMAGE] & 255;
                 for (level++; level < PAGES; level++) {
                     path[level] = page;
                     slots[level] = -1;
                     depth = level;
                     if (!isInner(page)) break;
-                    page = at(page * PAGE + 2);
+                    page = firstChild(page);
                 }
+                if (depth < 0 || depth >= PAGES) return;
                 slots[depth] = 0;
                 if (count(page) > 0) cell = page * PAGE + HEADER;
             }
         }
 
-        /** The greatest number of a row; 0 if there is none. */
-        int greatestRow(int root) {
-            setNumber(ROW_NUMBERS);
-            descend(root, twoBytes, 2);
-            int leaf = path[depth < PAGES ? depth : 0];
-            if (count(leaf) > 0) return numberAtEnd(placeOf(leaf, count(leaf) - 1));
-            int greatest = 0;
-            seekFirst(root);
-            for (int i = 0; cell >= 0 && i < PAGES * PAGE; i++) {
-                greatest = numberAtEnd(cell);
-                next();
+        /** Where the cell with the greatest key stands; -1 if there is none. */
+        int last(int root) {
+            int greatest = -1;
+            int waiting = 1;
+            pending[0] = root;
+            for (int i = 0; waiting > 0 && greatest < 0 && i < PAGES; i++) {
+                int page = pending[--waiting];
+                int cells = count(page);
+                if (isInner(page)) {
+                    for (int k = -1; k < cells && waiting < pending.length; k++) pending[waiting++] = childOf(page, k);
+                } else if (cells > 0) {
+                    greatest = placeOf(page, cells - 1);
+                }
             }
             return greatest;
         }
 
         /** Copies the cell of the walk to a place of a row of bytes; returns how many it has. */
-        int copyCell(byte[] to, int at) {
-            int bytes = cellBytes(cell, false);
-            if (cell < 0 || at < 0 || at + bytes > to.length || cell + bytes > image.length) return 0;
-            System.arraycopy(image, cell, to, at, bytes);
+        int copyCell(byte[] to, int from) {
+            int bytes = 2 + at(cell) + at(cell + 1);
+            if (cell < 0 || from < 0 || from + bytes > to.length) return 0;
+            for (int i = 0; i < bytes; i++) to[from + i] = (byte) at(cell + i);
             return bytes;
         }
 
@@ -3301,8 +3296,8 @@ public final class SqlStore {
                 int page = pending[--waiting];
                 found[n] = page;
                 if (!isInner(page)) continue;
-                for (int i = count(page) - 1; i >= -1; i--) {
-                    if (waiting < pending.length) pending[waiting++] = childOf(page, i);
+                for (int i = count(page) - 1; i >= -1 && waiting < pending.length; i--) {
+                    pending[waiting++] = childOf(page, i);
                 }
             }
             return n;
@@ -3311,14 +3306,14 @@ public final class SqlStore {
         int levels(int root) {
             int page = root;
             int n = 1;
-            for (; isInner(page) && n < PAGES; n++) page = at(page * PAGE + 2);
+            for (; isInner(page) && n < PAGES; n++) page = firstChild(page);
             return n;
         }
 
         int leafCells(int root) {
             int pages = collect(root);
             int cells = 0;
-            for (int i = 0; i < pages; i++) {
+            for (int i = 0; i < pages && i < PAGES; i++) {
                 if (!isInner(found[i])) cells += count(found[i]);
             }
             return cells;
@@ -3326,7 +3321,7 @@ public final class SqlStore {
 
         void freeTree(int root) {
             int n = collect(root);
-            for (int i = 0; i < n; i++) freePage(found[i]);
+            for (int i = 0; i < n && i < PAGES; i++) freePage(found[i]);
         }
 
         // ---- putting in
@@ -3343,7 +3338,7 @@ public final class SqlStore {
                 int page = path[level];
                 int total = join(page, place);
                 if (total <= LOAD) {
-                    writePage(page, at(page * PAGE), at(page * PAGE + 2), 0, total, count(page) + 1);
+                    writePage(page, at(page * PAGE), firstChild(page), 0, total, count(page) + 1);
                     return;
                 }
                 split(page, total, level == 0);
@@ -3352,16 +3347,15 @@ public final class SqlStore {
         }
 
         private void addFresh(int b) {
-            if (freshLength < fresh.length) fresh[freshLength++] = (byte) b;
+            if (freshLength >= 0 && freshLength < fresh.length) fresh[freshLength++] = (byte) b;
         }
 
         /** Joins the cells of a page with the fresh one at this place; returns how many bytes they have. */
         private int join(int page, int place) {
-            int from = page * PAGE + HEADER;
             int end = placeOf(page, count(page));
             int total = 0;
-            for (int i = from; i < place && total < joined.length; i++) joined[total++] = (byte) at(i);
-            for (int i = 0; i < freshLength && total < joined.length; i++) joined[total++] = fresh[i];
+            for (int i = page * PAGE + HEADER; i < place && total < joined.length; i++) joined[total++] = (byte) at(i);
+            for (int i = 0; i < freshLength && i < PAGE && total < joined.length; i++) joined[total++] = fresh[i];
             for (int i = place; i < end && total < joined.length; i++) joined[total++] = (byte) at(i);
             return total;
         }
@@ -3373,8 +3367,8 @@ public final class SqlStore {
         /** Splits a page by the joined cells; the fresh cell becomes that of the parent. */
         private void split(int page, int total, boolean isRoot) {
             boolean inner = isInner(page);
-            int kind = at(page * PAGE);
-            int firstChild = at(page * PAGE + 2);
+            int kind = inner ? INNER : LEAF;
+            int firstChild = firstChild(page);
             int cells = count(page) + 1;
             int cut = 0;
             int up = 0;
@@ -3394,7 +3388,7 @@ public final class SqlStore {
             addFresh(right);
             for (int i = 0; i < keyLength; i++) addFresh(joinedByte(between + 2 + i));
             if (!isRoot) return;
-            System.arraycopy(fresh, 0, joined, 0, freshLength);
+            for (int i = 0; i < freshLength && i < PAGE; i++) joined[i] = fresh[i];
             writePage(page, INNER, left, 0, freshLength, 1);
         }
 
@@ -3402,7 +3396,7 @@ public final class SqlStore {
 
         void takeOut(int root, byte[] key, int length) {
             descend(root, key, length);
-            if (cell < 0 || depth >= PAGES || compare(cell, key, length) != 0) return;
+            if (cell < 0 || depth < 0 || depth >= PAGES || compare(cell, key, length) != 0) return;
             cut(path[depth], cell);
             for (int level = depth; level > 0; level--) {
                 if (!joinsNeighbour(level)) return;
@@ -3410,25 +3404,15 @@ public final class SqlStore {
             for (int i = 0; isInner(root) && count(root) == 0 && i < PAGES; i++) takeOverChild(root);
         }
 
-        void takeOutRow(int root, int number) {
-            setNumber(number);
-            takeOut(root, twoBytes, 2);
-        }
-
-        void putRow(int root, int number, byte[] record, int length) {
-            setNumber(number);
-            put(root, twoBytes, 2, record, length);
-        }
-
         private void takeOverChild(int root) {
-            int child = at(root * PAGE + 2);
+            int child = firstChild(root);
             for (int i = 0; i < PAGE; i++) set(root * PAGE + i, at(child * PAGE + i));
             freePage(child);
         }
 
         private void cut(int page, int place) {
             int end = placeOf(page, count(page));
-            int bytes = cellBytes(place, isInner(page));
+            int bytes = 2 + at(place) + (isInner(page) ? 0 : at(place + 1));
             for (int i = place; i < end; i++) set(i, i + bytes < end ? at(i + bytes) : 0);
             set(page * PAGE + 1, count(page) - 1);
         }
@@ -3441,35 +3425,29 @@ public final class SqlStore {
             int slot = slots[level - 1];
             boolean hasNext = slot + 1 < count(parent);
             if (!hasNext && slot < 0) return false;
-            int rightSlot = hasNext ? slot + 1 : slot;
-            int left = hasNext ? page : childOf(parent, slot - 1);
-            int right = hasNext ? childOf(parent, slot + 1) : page;
-            int rightCell = placeOf(parent, rightSlot);
-            int loads = loadOf(left) + loadOf(right);
+            int rightCell = placeOf(parent, hasNext ? slot + 1 : slot);
+            int right = at(rightCell + 1);
+            int left = hasNext ? page : slot == 0 ? firstChild(parent) : at(placeOf(parent, slot - 1) + 1);
+            int leftEnd = placeOf(left, count(left));
+            int rightEnd = placeOf(right, count(right));
+            int loads = leftEnd - left * PAGE + rightEnd - right * PAGE - 2 * HEADER;
             boolean inner = isInner(page);
             if (inner && loads + 2 + at(rightCell) > JOINED_LOAD) return false;
             if (!inner && loads > JOINED_LOAD && count(left) > 0 && count(right) > 0) return false;
-            if (inner) appendDown(left, rightCell, childOf(right, -1));
-            appendCells(left, right);
+            int cells = count(left) + count(right);
+            if (inner) {
+                // The key between the two goes down, with the first child of the right one.
+                set(leftEnd, at(rightCell));
+                set(leftEnd + 1, firstChild(right));
+                for (int i = 0; i < at(rightCell); i++) set(leftEnd + 2 + i, at(rightCell + 2 + i));
+                leftEnd += 2 + at(rightCell);
+                cells++;
+            }
+            for (int i = right * PAGE + HEADER; i < rightEnd; i++) set(leftEnd + i - right * PAGE - HEADER, at(i));
+            set(left * PAGE + 1, cells);
             cut(parent, rightCell);
             freePage(right);
             return true;
-        }
-
-        /** Appends a cell with the key of a cell of the parent. */
-        private void appendDown(int page, int parentCell, int child) {
-            int end = placeOf(page, count(page));
-            set(end, at(parentCell));
-            set(end + 1, child);
-            for (int i = 0; i < at(parentCell); i++) set(end + 2 + i, at(parentCell + 2 + i));
-            set(page * PAGE + 1, count(page) + 1);
-        }
-
-        private void appendCells(int page, int from) {
-            int end = placeOf(page, count(page));
-            int bytes = loadOf(from);
-            for (int i = 0; i < bytes; i++) set(end + i, at(from * PAGE + HEADER + i));
-            set(page * PAGE + 1, count(page) + count(from));
         }
     }
 
@@ -3492,9 +3470,9 @@ public final class SqlStore {
         private final boolean[] keptPages = new boolean[CLIENTS * SAVEPOINTS];
         private final byte[] keptBytes = new byte[SAVEPOINTS * PAGES * PAGE];
         /** The pages as the writer has changed them. */
-        private final byte[] own = new byte[PAGES * PAGE];
+        private final byte[] own = new byte[IMAGE];
         /** The pages as the last mark that was looked by tells them. */
-        private final byte[] seen = new byte[PAGES * PAGE];
+        private final byte[] seen = new byte[IMAGE];
         private int seenMark = -1;
         private final byte[] before = new byte[PAGES * PAGE];
 
@@ -3524,7 +3502,7 @@ public final class SqlStore {
 
         private void show(int mark) {
             if (seenMark < 0 || seenMark > mark) {
-                System.arraycopy(file, 0, seen, 0, seen.length);
+                System.arraycopy(file, 0, seen, 0, PAGES * PAGE);
                 seenMark = 0;
             }
             for (int i = seenMark; i < mark && i < FRAMES; i++) copyFrame(i, seen);
@@ -3550,7 +3528,9 @@ public final class SqlStore {
             return due;
         }
 
+        /** Whether the writer has changed a page; none behind those that there are for it. */
         private boolean differs(int page) {
+            if (page >= (own[1] & 255) || page >= PAGES) return false;
             for (int i = page * PAGE; i < (page + 1) * PAGE; i++) {
                 if (own[i] != seen[i]) return true;
             }
@@ -3570,17 +3550,18 @@ public final class SqlStore {
             if (marks[client] < 0) marks[client] = frames();
             if (!writes) return;
             if (writing != client) {
-                System.arraycopy(view(client), 0, own, 0, own.length);
+                show(marks[client]);
+                System.arraycopy(seen, 0, own, 0, PAGES * PAGE);
                 writing = client;
             }
-            if (begun[client]) System.arraycopy(own, 0, before, 0, own.length);
+            if (begun[client]) System.arraycopy(own, 0, before, 0, PAGES * PAGE);
         }
 
         /** Ends a statement with its code; returns the code that it has then. */
         int leave(int client, boolean writes, int code) {
             if (!isClient(client)) return code;
             if (begun[client]) {
-                if (writes && code != 0) System.arraycopy(before, 0, own, 0, own.length);
+                if (writes && code != 0) System.arraycopy(before, 0, own, 0, PAGES * PAGE);
                 return code;
             }
             int last = code == 0 && !appends(client) ? CODE_NO_ROOM : code;
@@ -3676,10 +3657,10 @@ public final class SqlStore {
             kept[client] = i + 1;
             if (writing != client) return 0;
             if (keptPages[client * SAVEPOINTS + i]) {
-                System.arraycopy(keptBytes, i * PAGES * PAGE, own, 0, own.length);
+                System.arraycopy(keptBytes, i * PAGES * PAGE, own, 0, PAGES * PAGE);
             } else {
                 show(marks[client]);
-                System.arraycopy(seen, 0, own, 0, own.length);
+                System.arraycopy(seen, 0, own, 0, PAGES * PAGE);
             }
             return 0;
         }
@@ -3804,6 +3785,7 @@ public final class SqlStore {
         private final int[] openRows = new int[OPEN_ROWS];
         private int openTop;
         private final Value none = new Value();
+        final byte[] record = new byte[KEY_BYTES];
         private final byte[] low = new byte[KEY_BYTES];
         private int lowLength;
         private final byte[] high = new byte[KEY_BYTES];
@@ -3839,30 +3821,31 @@ public final class SqlStore {
             return i >= 0 && i < cells.size() ? cells.get(i) : none;
         }
 
-        /** Takes so many cells; returns the first one. */
+        /** Takes so many cells, which are null then; returns the first one. */
         int take(int count) {
             int from = top;
             for (int i = 0; i < count; i++) {
-                if (top == cells.size()) cells.add(new Value());
-                cell(top++).clear();
+                if (top >= cells.size()) cells.add(new Value());
+                cell(top).clear();
+                top++;
             }
             return from;
         }
 
         private void push(Value v) {
-            cell(take(1)).set(v);
-        }
-
-        private boolean sameCells(int a, int b, int count) {
-            for (int i = 0; i < count; i++) {
-                if (!cell(a + i).same(cell(b + i))) return false;
-            }
-            return true;
+            if (top >= cells.size()) cells.add(new Value());
+            cell(top).set(v);
+            top++;
         }
 
         // ---- expressions
 
-        Value eval(Node n, int depth) {
+        /** Evaluates an expression that stands in no other one. */
+        Value value(Node n) {
+            return eval(n, 0);
+        }
+
+        private Value eval(Node n, int depth) {
             if (n == null) return none;
             if (depth > DEEPEST) stop(CODE_TOO_MUCH);
             switch (n.kind) {
@@ -3894,8 +3877,9 @@ public final class SqlStore {
 
         /** Puts 1, 0 or null, or, with not ahead, what not makes of it. */
         private static Value putDenied(Node n, boolean known, boolean truth) {
-            if (!known) return putNull(n);
-            return put(n, truth != (n.flags == W_NOT));
+            if (known) n.value.setNumber(truth != (n.flags == W_NOT) ? 1 : 0);
+            else n.value.clear();
+            return n.value;
         }
 
         private Value parameter(Node n) {
@@ -3950,7 +3934,7 @@ public final class SqlStore {
             for (Node m = x.next; m != null; m = m.next) {
                 Value other = eval(m, depth + 1);
                 if (other.kind == NULL) known = false;
-                else if (value.kind != NULL && value.same(other)) return putDenied(n, true, true);
+                else if (value.kind != NULL && value.order(other) == 0) return putDenied(n, true, true);
             }
             return putDenied(n, known, false);
         }
@@ -3965,7 +3949,7 @@ public final class SqlStore {
             for (int i = 0; i < q.count && !found; i++) {
                 Value other = cell(q.rowAt(i));
                 if (other.kind == NULL) known = false;
-                else if (value.kind != NULL && value.same(other)) found = true;
+                else if (value.kind != NULL && value.order(other) == 0) found = true;
             }
             top = mark;
             return putDenied(n, known || found, found);
@@ -4070,8 +4054,8 @@ public final class SqlStore {
         }
 
         private static Value putReckoned(Node n, long result, boolean fits) {
-            if (!fits) return putNull(n);
-            n.value.setNumber(result);
+            if (fits) n.value.setNumber(result);
+            else n.value.clear();
             return n.value;
         }
 
@@ -4109,8 +4093,13 @@ public final class SqlStore {
 
         // ---- queries
 
+        /** Runs a query that stands in no other one. */
+        void answer(Select q) {
+            runQuery(q, 0);
+        }
+
         /** Runs a query; its rows are those of its first core then, and their cells stay till the top is set back. */
-        void runQuery(Select q, int depth) {
+        private void runQuery(Select q, int depth) {
             if (q == null) return;
             if (depth > DEEPEST) stop(CODE_TOO_MUCH);
             for (Select c = q; c != null; c = c.next) {
@@ -4141,7 +4130,10 @@ public final class SqlStore {
 
         private boolean hasRow(Select c, int row, int width) {
             for (int i = 0; i < c.count; i++) {
-                if (sameCells(c.rowAt(i), row, width)) return true;
+                int other = c.rowAt(i);
+                int same = 0;
+                for (; same < width && cell(other + same).order(cell(row + same)) == 0; same++) {}
+                if (same == width) return true;
             }
             return false;
         }
@@ -4220,7 +4212,8 @@ public final class SqlStore {
             findRows(s, depth);
             int to = openTop;
             for (int i = from; i < to && i < OPEN_ROWS; i++) {
-                takeUp(s, openRows[i]);
+                step();
+                readRow(s.table, openRows[i], s.row);
                 if (passes(c, s, depth)) any = true;
             }
             openTop = from;
@@ -4246,16 +4239,11 @@ public final class SqlStore {
             return true;
         }
 
-        /** Takes up the row whose cell stands here. */
-        void takeUp(Source s, int place) {
-            step();
-            readRow(s.table, place, s.row);
-        }
-
+        /** Reads the row whose cell stands here. */
         void readRow(Definition d, int place, Value[] row) {
             if (d == null || place < 0) return;
             int at = place + 2 + tree.at(place);
-            for (int i = 0; i < d.columnCount && i < row.length; i++) at = row[i].readRecord(tree.image, at);
+            for (int i = 0; i < d.columnCount && i < row.length; i++) at = row[i].readRecord(tree.shown(), at);
         }
 
         private void combination(Select c, int depth) {
@@ -4303,7 +4291,7 @@ public final class SqlStore {
             for (int i = 0; i < c.groupCount && i < LIST; i++) {
                 int at = c.groupList[i];
                 boolean same = true;
-                for (Node g = c.groups; g != null && same; g = g.next) same = eval(g, 0).same(cell(at++));
+                for (Node g = c.groups; g != null && same; g = g.next) same = eval(g, 0).order(cell(at++)) == 0;
                 if (same) return c.groupList[i];
             }
             addGroup(c);
@@ -4326,7 +4314,7 @@ public final class SqlStore {
             Value last = kept;
             for (; last.link > 0 && count < LIST; count++) {
                 last = cell(last.link - 1);
-                if (last.same(v)) return false;
+                if (last.order(v) == 0) return false;
             }
             if (count >= LIST) stop(CODE_TOO_MUCH);
             int added = take(1);
@@ -4404,7 +4392,9 @@ public final class SqlStore {
             }
             sortOpen(from);
             for (int i = from; i < openTop && i < OPEN_ROWS; i++) {
-                openRows[i] = tree.findRow(s.table.root(), openRows[i]);
+                low[0] = (byte) (openRows[i] >> 8);
+                low[1] = (byte) openRows[i];
+                openRows[i] = tree.find(s.table.root(), low, 2);
             }
         }
 
@@ -4457,13 +4447,39 @@ public final class SqlStore {
             findRows(s, 0);
             int to = openTop;
             for (int i = from; i < to && i < OPEN_ROWS; i++) {
-                takeUp(s, openRows[i]);
+                step();
+                readRow(s.table, openRows[i], s.row);
                 if (where != null && !eval(where, 0).isTrue()) continue;
                 if (count >= numbers.length) stop(CODE_TOO_MUCH);
                 numbers[count++] = tree.numberAtEnd(openRows[i]);
             }
             openTop = from;
             return count;
+        }
+
+        // ---- rows to put in
+
+        /** Examines a row that stands in cells, but for what is unique; returns the code. */
+        int examine(Definition d, int row) {
+            for (int i = 0; i < d.columnCount; i++) {
+                if (cell(row + i).length > STORED_BYTES) return CODE_TOO_LONG;
+            }
+            for (int i = 0; i < d.columnCount; i++) {
+                Node column = d.column(i);
+                if (column != null && column.has(NOT_NULL) && cell(row + i).kind == NULL) return CODE_NULL;
+            }
+            for (int i = 0; i < d.columnCount && i < ITEMS; i++) d.source.row[i].set(cell(row + i));
+            for (Node rule = d.rules; rule != null; rule = rule.next) {
+                if (rule.kind == W_CHECK && eval(rule.first, 0).isFalse()) return CODE_CHECK;
+            }
+            return recordOf(d, row) > RECORD_BYTES ? CODE_TOO_LONG : 0;
+        }
+
+        /** Puts the record of a row that stands in cells; returns its length. */
+        int recordOf(Definition d, int row) {
+            int length = 0;
+            for (int i = 0; i < d.columnCount; i++) length = cell(row + i).putRecord(record, length);
+            return length;
         }
     }
 
@@ -4481,9 +4497,11 @@ public final class SqlStore {
         private final int[] listTables = new int[LIST];
         private final int[] listRows = new int[LIST];
         private int listCount;
+        /** The column, of all columns of all definitions, and the row in which a reference was found last. */
+        private int refColumn;
+        private int refRow;
         private final Value[] old = new Value[ITEMS];
         private final Value[] gone = new Value[ITEMS];
-        private final byte[] record = new byte[KEY_BYTES];
         private final byte[] probe = new byte[KEY_BYTES];
         private final byte[] key = new byte[KEY_BYTES];
         private final byte[] oldKey = new byte[KEY_BYTES];
@@ -4498,29 +4516,21 @@ public final class SqlStore {
             }
         }
 
-        void change(Statement s, byte[] from, int at) {
+        /** Begins a statement, whose text stands here. */
+        void begin(Statement s, byte[] from, int at) {
             changeCount = 0;
             listCount = 0;
             text = from;
             textAt = at + s.begin;
-            switch (s.kind) {
-                case W_TABLE: createTable(s); break;
-                case W_INDEX: createIndex(s); break;
-                case W_VIEW: putPieces(s, VIEW, 0); break;
-                case W_DROP: drop(s); break;
-                case W_INSERT: insert(s); break;
-                case W_UPDATE: update(s); break;
-                default: delete(s);
-            }
         }
 
         // ---- rows and keys
 
-        /** The key of an index for a row that stands in cells, without the number; returns its length. */
-        private int keyOfCells(Definition d, int index, int row, byte[] to) {
+        /** Puts the key of an index for a row that stands in cells, without the number; returns its length. */
+        private int keyOfCells(Definition d, int index, int row) {
             int length = 0;
             for (int k = 0; k < d.widthOf(index); k++) {
-                length = runner.cell(row + d.indexColumn(index, k)).putKey(to, length);
+                length = runner.cell(row + d.indexColumn(index, k)).putKey(key, length);
             }
             return length;
         }
@@ -4541,15 +4551,9 @@ public final class SqlStore {
             return length + 2;
         }
 
-        private int recordOfCells(Definition d, int row, byte[] to) {
+        private int recordOfOld(Definition d) {
             int length = 0;
-            for (int i = 0; i < d.columnCount; i++) length = runner.cell(row + i).putRecord(to, length);
-            return length;
-        }
-
-        private int recordOfValues(Definition d, Value[] row, byte[] to) {
-            int length = 0;
-            for (int i = 0; i < d.columnCount && i < row.length; i++) length = row[i].putRecord(to, length);
+            for (int i = 0; i < d.columnCount && i < ITEMS; i++) length = old[i].putRecord(probe, length);
             return length;
         }
 
@@ -4561,31 +4565,13 @@ public final class SqlStore {
             return true;
         }
 
-        // ---- examining
-
-        /** Examines a row that stands in cells, but for what is unique; returns the code. */
-        private int examine(Definition d, int row) {
-            for (int i = 0; i < d.columnCount; i++) {
-                if (runner.cell(row + i).length > STORED_BYTES) return CODE_TOO_LONG;
-            }
-            for (int i = 0; i < d.columnCount; i++) {
-                Node column = d.column(i);
-                if (column != null && column.has(NOT_NULL) && runner.cell(row + i).kind == NULL) return CODE_NULL;
-            }
-            for (int i = 0; i < d.columnCount && i < ITEMS; i++) d.source.row[i].set(runner.cell(row + i));
-            for (Node rule = d.rules; rule != null; rule = rule.next) {
-                if (rule.kind == W_CHECK && runner.eval(rule.first, 0).isFalse()) return CODE_CHECK;
-            }
-            return recordOfCells(d, row, record) > RECORD_BYTES ? CODE_TOO_LONG : 0;
-        }
-
         /** The number of another row with the same values in a unique index, none of them null; 0 if there is none. */
         private int otherRow(Definition d, int index, int row, int number) {
             if (!d.isUniqueIndex(index)) return 0;
             for (int k = 0; k < d.widthOf(index); k++) {
                 if (runner.cell(row + d.indexColumn(index, k)).kind == NULL) return 0;
             }
-            int length = keyOfCells(d, index, row, key);
+            int length = keyOfCells(d, index, row);
             tree.seek(d.rootOfIndex(index), key, length);
             if (tree.cell < 0 || !tree.startsWith(tree.cell, key, length)) return 0;
             int other = tree.numberAtEnd(tree.cell);
@@ -4594,11 +4580,27 @@ public final class SqlStore {
 
         // ---- insert
 
-        private void insert(Statement s) {
+        void insert(Statement s) {
             Definition d = checker.tableCalled(s.target);
             if (d == null) return;
             int count = s.query == null ? reckonRows(s, d) : queryRows(s, d);
-            for (int i = 0; i < count && i < LIST; i++) insertRow(d, numbers[i], s.mode);
+            for (int k = 0; k < count && k < LIST; k++) {
+                int row = numbers[k];
+                int code = runner.examine(d, row);
+                for (int i = 0; i < d.indexCount && code == 0; i++) {
+                    int other = otherRow(d, i, row, 0);
+                    if (other == 0) continue;
+                    if (s.mode != W_REPLACE) {
+                        code = CODE_UNIQUE;
+                        continue;
+                    }
+                    listCount = 0;
+                    addToList(d, other);
+                    takeOutList();
+                }
+                if (code == 0) putRow(d, row);
+                else if (s.mode != W_IGNORE || code == CODE_TOO_LONG) runner.stop(code);
+            }
         }
 
         /** Reckons the rows behind values; where they stand is put among the numbers. */
@@ -4608,8 +4610,9 @@ public final class SqlStore {
                 int cells = newRow(d);
                 int place = 0;
                 for (Node n = row.first; n != null; n = n.next) {
-                    Value v = runner.eval(n, 0);
-                    runner.cell(cells + Checker.columnOfPlace(s.list, place++)).set(v);
+                    Value v = runner.value(n);
+                    runner.cell(cells + Checker.columnOfPlace(s.list, place)).set(v);
+                    place++;
                 }
                 numbers[count++] = cells;
             }
@@ -4617,7 +4620,7 @@ public final class SqlStore {
         }
 
         private int queryRows(Statement s, Definition d) {
-            runner.runQuery(s.query, 0);
+            runner.answer(s.query);
             int count = Math.min(s.query.count, LIST);
             for (int i = 0; i < count; i++) {
                 int cells = newRow(d);
@@ -4640,22 +4643,16 @@ public final class SqlStore {
             return cells;
         }
 
-        private void insertRow(Definition d, int row, int mode) {
-            int code = examine(d, row);
-            for (int i = 0; i < d.indexCount && code == 0; i++) {
-                int other = otherRow(d, i, row, 0);
-                if (other == 0) continue;
-                if (mode == W_REPLACE) removeRow(d, other);
-                else code = CODE_UNIQUE;
-            }
-            if (mode == W_IGNORE && (code == CODE_NULL || code == CODE_UNIQUE || code == CODE_CHECK)) return;
-            if (code != 0) runner.stop(code);
-            int number = tree.greatestRow(d.root()) + 1;
+        /** Puts in a row that was examined. */
+        private void putRow(Definition d, int row) {
+            int last = tree.last(d.root());
+            int number = last < 0 ? 1 : tree.numberAtEnd(last) + 1;
             if (number > ROW_NUMBERS) runner.stop(CODE_NO_ROOM);
-            tree.putRow(d.root(), number, record, recordOfCells(d, row, record));
+            int length = runner.recordOf(d, row);
+            tree.put(d.root(), key, addNumber(key, 0, number), runner.record, length);
             for (int i = 0; i < d.indexCount; i++) {
-                int length = addNumber(key, keyOfCells(d, i, row, key), number);
-                tree.put(d.rootOfIndex(i), key, length, NO_BYTES, 0);
+                int keyLength = addNumber(key, keyOfCells(d, i, row), number);
+                tree.put(d.rootOfIndex(i), key, keyLength, NO_BYTES, 0);
             }
             changeCount++;
             for (int i = 0; i < d.columnCount; i++) needTarget(d, i, runner.cell(row + i));
@@ -4676,80 +4673,77 @@ public final class SqlStore {
 
         // ---- update
 
-        private void update(Statement s) {
+        void update(Statement s) {
             Source source = s.scope == null ? null : s.scope.sources;
             Definition d = source == null ? null : source.table;
             if (d == null) return;
             int count = runner.rowsToChange(source, s.scope.where, numbers);
             int cells = runner.take(count * d.columnCount);
-            for (int i = 0; i < count; i++) {
-                runner.readRow(d, tree.findRow(d.root(), numbers[i]), source.row);
+            for (int i = 0; i < count && i < LIST; i++) {
+                runner.readRow(d, findRow(d, numbers[i]), source.row);
                 reckonSettings(s, d, source, cells + i * d.columnCount);
             }
-            for (int i = 0; i < count; i++) changeRow(d, numbers[i], cells + i * d.columnCount);
+            for (int i = 0; i < count && i < LIST; i++) changeRow(d, numbers[i], cells + i * d.columnCount);
+        }
+
+        private int findRow(Definition d, int number) {
+            return tree.find(d.root(), key, addNumber(key, 0, number));
         }
 
         private void reckonSettings(Statement s, Definition d, Source source, int row) {
             for (int i = 0; i < d.columnCount && i < ITEMS; i++) runner.cell(row + i).set(source.row[i]);
             for (Node n = s.list; n != null; n = n.next) {
-                Value v = runner.eval(n.first, 0);
+                Value v = runner.value(n.first);
                 runner.cell(row + n.column).set(v);
             }
         }
 
         /** Changes a row to what stands in cells. */
         private void changeRow(Definition d, int number, int row) {
-            int place = tree.findRow(d.root(), number);
+            int place = findRow(d, number);
             if (place < 0) return;
             runner.readRow(d, place, old);
-            int code = examine(d, row);
+            int code = runner.examine(d, row);
             if (code != 0) runner.stop(code);
             for (int i = 0; i < d.indexCount; i++) {
                 if (otherRow(d, i, row, number) != 0) runner.stop(CODE_UNIQUE);
             }
-            int length = recordOfCells(d, row, record);
-            if (!sameBytes(record, length, probe, recordOfValues(d, old, probe))) {
-                tree.takeOutRow(d.root(), number);
-                tree.putRow(d.root(), number, record, length);
+            int length = runner.recordOf(d, row);
+            if (!sameBytes(runner.record, length, probe, recordOfOld(d))) {
+                tree.takeOut(d.root(), key, addNumber(key, 0, number));
+                tree.put(d.root(), key, addNumber(key, 0, number), runner.record, length);
             }
-            for (int i = 0; i < d.indexCount; i++) changeEntry(d, i, number, row);
+            for (int i = 0; i < d.indexCount; i++) {
+                int oldLength = addNumber(oldKey, keyOfValues(d, i, old, oldKey), number);
+                int keyLength = addNumber(key, keyOfCells(d, i, row), number);
+                if (sameBytes(key, keyLength, oldKey, oldLength)) continue;
+                tree.takeOut(d.rootOfIndex(i), oldKey, oldLength);
+                tree.put(d.rootOfIndex(i), key, keyLength, NO_BYTES, 0);
+            }
             changeCount++;
             for (int i = 0; i < d.columnCount && i < ITEMS; i++) {
-                if (!runner.cell(row + i).same(old[i])) needTarget(d, i, runner.cell(row + i));
+                if (runner.cell(row + i).order(old[i]) != 0) needTarget(d, i, runner.cell(row + i));
             }
-            for (int i = 0; i < checker.definitionCount; i++) needNoReference(checker.definition(i), d, row);
-        }
-
-        private void changeEntry(Definition d, int index, int number, int row) {
-            int oldLength = addNumber(oldKey, keyOfValues(d, index, old, oldKey), number);
-            int length = addNumber(key, keyOfCells(d, index, row, key), number);
-            if (sameBytes(key, length, oldKey, oldLength)) return;
-            tree.takeOut(d.rootOfIndex(index), oldKey, oldLength);
-            tree.put(d.rootOfIndex(index), key, length, NO_BYTES, 0);
-        }
-
-        /** Stops, if a row of a table has an old value in a column that references one that was changed. */
-        private void needNoReference(Definition table, Definition d, int row) {
-            if (table == null || table.kind != TABLE) return;
-            for (int i = 0; i < table.columnCount; i++) {
-                int column = referenced(table, i, d);
+            for (int i = 0; i < checker.definitionCount * TABLE_COLUMNS; i++) {
+                Definition table = checker.definition(i / TABLE_COLUMNS);
+                int column = referenced(table, i % TABLE_COLUMNS, d);
                 if (column < 0 || column >= ITEMS || old[column].kind == NULL) continue;
-                if (runner.cell(row + column).same(old[column])) continue;
-                int length = old[column].putRecord(probe, 0);
-                if (rowWith(table, i, length, 0) > 0) runner.stop(CODE_REFERENCE);
+                if (runner.cell(row + column).order(old[column]) == 0) continue;
+                int probeLength = old[column].putRecord(probe, 0);
+                if (rowWith(table, i % TABLE_COLUMNS, probeLength, 0) > 0) runner.stop(CODE_REFERENCE);
             }
         }
 
         /** The column of d that a column of a table references; -1 if it references none of it. */
         private static int referenced(Definition table, int column, Definition d) {
-            Node n = table.column(column);
+            Node n = table == null || table.kind != TABLE ? null : table.column(column);
             Node reference = n == null ? null : n.part(W_REFERENCES);
             return reference == null || reference.name != d.name ? -1 : d.columnOf(reference.second);
         }
 
         /** The first row behind a number with the value of the probe in a column; 0 if there is none. */
         private int rowWith(Definition d, int column, int probeLength, int number) {
-            tree.seekRow(d.root(), number + 1);
+            tree.seek(d.root(), key, addNumber(key, 0, number + 1));
             for (int i = 0; tree.cell >= 0 && i < PAGES * PAGE; i++) {
                 if (hasProbe(tree.cell, column, probeLength)) return tree.numberAtEnd(tree.cell);
                 tree.next();
@@ -4771,77 +4765,90 @@ public final class SqlStore {
 
         // ---- delete
 
-        private void delete(Statement s) {
+        void delete(Statement s) {
             Source source = s.scope == null ? null : s.scope.sources;
             if (source == null || source.table == null) return;
             int count = runner.rowsToChange(source, s.scope.where, numbers);
-            for (int i = 0; i < count; i++) addToList(source.table, numbers[i]);
-            takeOutList();
-        }
-
-        private void removeRow(Definition d, int number) {
-            listCount = 0;
-            addToList(d, number);
+            for (int i = 0; i < count && i < LIST; i++) addToList(source.table, numbers[i]);
             takeOutList();
         }
 
         private void addToList(Definition d, int number) {
-            if (listCount >= LIST) runner.stop(CODE_TOO_MUCH);
+            if (listCount < 0 || listCount >= LIST) runner.stop(CODE_TOO_MUCH);
             for (int i = 0; i < checker.definitionCount; i++) {
                 if (checker.definition(i) == d) listTables[listCount] = i;
             }
             listRows[listCount++] = number;
         }
 
+        /** Takes out the rows of the list, and does what references to them ask for. */
         private void takeOutList() {
-            for (int i = 0; i < listCount && i < LIST; i++) takeOutRow(checker.definition(listTables[i]), listRows[i]);
+            for (int i = 0; i < listCount && i < LIST; i++) {
+                Definition d = checker.definition(listTables[i]);
+                if (d == null || !takesOut(d, listRows[i])) continue;
+                refColumn = 0;
+                refRow = 0;
+                for (int k = 0; k < MANY && findsReferrer(d); k++) {
+                    Definition table = checker.definition(refColumn / TABLE_COLUMNS);
+                    if (table == null) continue;
+                    int action = actionOf(table, refColumn % TABLE_COLUMNS);
+                    if (action == W_CASCADE) {
+                        addToList(table, refRow);
+                    } else if (action == W_SET) {
+                        int mark = runner.top;
+                        changeRow(table, refRow, rowWithNull(table, refRow, refColumn % TABLE_COLUMNS));
+                        runner.top = mark;
+                    } else {
+                        runner.stop(CODE_REFERENCE);
+                    }
+                }
+            }
         }
 
-        private void takeOutRow(Definition d, int number) {
-            int place = d == null ? -1 : tree.findRow(d.root(), number);
-            if (place < 0) return;
+        /** Takes out a row, if it is there, and keeps what it was. */
+        private boolean takesOut(Definition d, int number) {
+            int place = findRow(d, number);
+            if (place < 0) return false;
             runner.readRow(d, place, gone);
-            tree.takeOutRow(d.root(), number);
+            tree.takeOut(d.root(), key, addNumber(key, 0, number));
             for (int i = 0; i < d.indexCount; i++) {
                 int length = addNumber(key, keyOfValues(d, i, gone, key), number);
                 tree.takeOut(d.rootOfIndex(i), key, length);
             }
             changeCount++;
-            for (int i = 0; i < checker.definitionCount; i++) followReferences(checker.definition(i), d);
+            return true;
         }
 
-        /** Does with rows of a table what their references to the row that is gone ask for. */
-        private void followReferences(Definition table, Definition d) {
-            if (table == null || table.kind != TABLE) return;
-            for (int i = 0; i < table.columnCount; i++) {
-                int column = referenced(table, i, d);
-                if (column < 0 || column >= ITEMS || gone[column].kind == NULL) continue;
-                Node n = table.column(i);
-                Node reference = n == null ? null : n.part(W_REFERENCES);
-                if (reference != null) followColumn(table, i, reference.flags, gone[column]);
+        /** Goes on to the next row, behind the one that was found last, with a reference to the row that is gone. */
+        private boolean findsReferrer(Definition d) {
+            int most = checker.definitionCount * TABLE_COLUMNS;
+            for (; refColumn < most; refColumn++) {
+                Definition table = checker.definition(refColumn / TABLE_COLUMNS);
+                int column = referenced(table, refColumn % TABLE_COLUMNS, d);
+                if (column >= 0 && column < ITEMS && gone[column].kind != NULL) {
+                    int length = gone[column].putRecord(probe, 0);
+                    refRow = rowWith(table, refColumn % TABLE_COLUMNS, length, refRow);
+                    if (refRow > 0) return true;
+                }
+                refRow = 0;
             }
+            return false;
         }
 
-        private void followColumn(Definition table, int column, int action, Value v) {
-            int number = 0;
-            for (int i = 0; i <= ROW_NUMBERS; i++) {
-                number = rowWith(table, column, v.putRecord(probe, 0), number);
-                if (number == 0) return;
-                if (action == W_CASCADE) addToList(table, number);
-                else if (action == W_SET) setNull(table, number, column);
-                else runner.stop(CODE_REFERENCE);
-            }
+        private static int actionOf(Definition table, int column) {
+            Node n = table.column(column);
+            Node reference = n == null ? null : n.part(W_REFERENCES);
+            return reference == null ? 0 : reference.flags;
         }
 
-        private void setNull(Definition d, int number, int column) {
-            int mark = runner.top;
+        /** Takes cells for a row as it is now, but null in a column. */
+        private int rowWithNull(Definition d, int number, int column) {
             int row = runner.take(d.columnCount);
-            runner.readRow(d, tree.findRow(d.root(), number), old);
+            runner.readRow(d, findRow(d, number), old);
             for (int i = 0; i < d.columnCount && i < ITEMS; i++) {
                 if (i != column) runner.cell(row + i).set(old[i]);
             }
-            changeRow(d, number, row);
-            runner.top = mark;
+            return row;
         }
 
         // ---- definitions
@@ -4858,11 +4865,15 @@ public final class SqlStore {
             return DEFINITIONS;
         }
 
+        void createView(Statement s) {
+            putPieces(s, VIEW, 0);
+        }
+
         /** Puts in the pieces of a definition, whose roots stand in the record from place 1 on. */
         private void putPieces(Statement s, int kind, int roots) {
             int number = freeNumber();
-            record[0] = (byte) kind;
-            putPiece(number, 0, record, 0, roots + 1);
+            runner.record[0] = (byte) kind;
+            putPiece(number, 0, runner.record, 0, roots + 1);
             int length = s.end - s.begin;
             int piece = 1;
             for (int at = 0; at < length && at < TAPE; at += PIECE_BYTES) {
@@ -4878,13 +4889,13 @@ public final class SqlStore {
             tree.put(1, key, 2, probe, length);
         }
 
-        private void createTable(Statement s) {
+        void createTable(Statement s) {
             int trees = 1 + checker.made.ownCount;
-            for (int i = 1; i <= trees && i < record.length; i++) record[i] = (byte) tree.takeLeaf();
+            for (int i = 1; i <= trees && i < runner.record.length; i++) runner.record[i] = (byte) tree.takeLeaf();
             putPieces(s, TABLE, trees);
         }
 
-        private void createIndex(Statement s) {
+        void createIndex(Statement s) {
             Definition d = checker.tableCalled(s.target);
             if (d == null) return;
             int root = tree.takeLeaf();
@@ -4893,21 +4904,21 @@ public final class SqlStore {
             made.shareColumns(d);
             made.addIndex(root, s.mode == W_UNIQUE, s.list, 0);
             int row = runner.take(d.columnCount);
-            tree.seekRow(d.root(), 1);
+            tree.seekFirst(d.root());
             for (int i = 0; tree.cell >= 0 && i <= ROW_NUMBERS; i++) {
                 int number = tree.numberAtEnd(tree.cell);
                 runner.readRow(d, tree.cell, old);
                 for (int k = 0; k < d.columnCount && k < ITEMS; k++) runner.cell(row + k).set(old[k]);
                 if (otherRow(made, 0, row, number) != 0) runner.stop(CODE_UNIQUE);
-                int length = addNumber(key, keyOfCells(made, 0, row, key), number);
+                int length = addNumber(key, keyOfCells(made, 0, row), number);
                 tree.put(root, key, length, NO_BYTES, 0);
-                tree.seekRow(d.root(), number + 1);
+                tree.seek(d.root(), key, addNumber(key, 0, number + 1));
             }
-            record[1] = (byte) root;
+            runner.record[1] = (byte) root;
             putPieces(s, INDEX, 1);
         }
 
-        private void drop(Statement s) {
+        void drop(Statement s) {
             Definition d = checker.called(s.name);
             if (d == null) return;
             if (d.kind == TABLE) needNoTable(d);
