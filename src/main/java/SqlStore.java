@@ -1076,7 +1076,7 @@ public final class SqlStore {
         final Value[] row = new Value[ITEMS];
         int index;
         int worth;
-        final Node[] equals = new Node[INDEX_NAMES];
+        final Node[] equalParts = new Node[INDEX_NAMES];
         int equalCount;
         Node lower;
         Node upper;
@@ -1160,7 +1160,7 @@ public final class SqlStore {
             for (int k = 0; k < width && k < INDEX_NAMES; k++) {
                 Node part = usable(EQUAL, table.indexColumn(index, k));
                 if (part == null) break;
-                equals[k] = part;
+                equalParts[k] = part;
                 equalCount = k + 1;
             }
             if (equalCount == width) return;
@@ -4407,7 +4407,7 @@ public final class SqlStore {
             boolean known = true;
             lowLength = 0;
             for (int k = 0; k < s.equalCount && k < INDEX_NAMES; k++) {
-                Node part = s.equals[k];
+                Node part = s.equalParts[k];
                 if (part == null) return false;
                 Value v = eval(s.bound(part, EQUAL, s.table.indexColumn(s.index, k)), depth + 1);
                 if (v.kind == NULL) known = false;
