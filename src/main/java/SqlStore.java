@@ -953,10 +953,6 @@ public final class SqlStore {
         boolean has(int flag) {
             return (flags & flag) != 0;
         }
-
-        boolean isAggregate() {
-            return kind == W_COUNT || kind == W_SUM || kind == W_MIN || kind == W_MAX;
-        }
     }
 
     /** A core of a query; the first one stands for the query, too. Also what update, delete and check see. */
@@ -3515,23 +3511,28 @@ public final class SqlStore {
 
         private void copyFrame(int frame, byte[] to) {
             int page = pageOfFrame(frame);
-            if (page < PAGES) System.arraycopy(bytes, frame * FRAME + 2, to, page * PAGE, PAGE);
+            if (frame < 0 || frame >= FRAMES || page >= PAGES) return;
+            System.arraycopy(bytes, frame * FRAME + 2, to, page * PAGE, PAGE);
         }
 
         int dueFrames(int client) {
-            if (!isClient(client) || marks[client] < 0 || client != writing) return 0;
-            show(marks[client]);
-            int due = 0;
-            for (int page = 0; page < PAGES; page++) {
-                if (differs(page)) due++;
-            }
-            return due;
+            return Long.bitCount(changedPages(client));
         }
 
-        /** Whether the writer has changed a page; none behind those that there are for it. */
+        /** The pages that are not as the mark of a client tells, a bit each. */
+        private long changedPages(int client) {
+            long changed = 0;
+            if (!isClient(client) || marks[client] < 0 || client != writing) return changed;
+            show(marks[client]);
+            // Behind the pages that there are for the writer nothing is changed.
+            for (int page = 0; page < PAGES && page < (own[1] & 255); page++) {
+                if (differs(page)) changed |= 1L << page;
+            }
+            return changed;
+        }
+
         private boolean differs(int page) {
-            if (page >= (own[1] & 255) || page >= PAGES) return false;
-            for (int i = page * PAGE; i < (page + 1) * PAGE; i++) {
+            for (int i = page * PAGE; i < (page + 1) * PAGE && i < IMAGE; i++) {
                 if (own[i] != seen[i]) return true;
             }
             return false;
@@ -3578,12 +3579,11 @@ public final class SqlStore {
 
         /** Appends what a client has changed, if there is room. */
         private boolean appends(int client) {
-            int due = dueFrames(client);
-            if (frames() + due > FRAMES) return false;
-            for (int page = 0; page < PAGES && due > 0; page++) {
-                if (!differs(page)) continue;
-                due--;
-                append(page, due == 0);
+            long changed = changedPages(client);
+            if (frames() + Long.bitCount(changed) > FRAMES) return false;
+            for (int page = 0; page < PAGES; page++) {
+                boolean isLast = changed >>> page == 1;
+                if ((changed >>> page & 1) != 0) append(page, isLast);
             }
             return true;
         }
