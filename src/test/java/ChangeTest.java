@@ -253,6 +253,17 @@ public final class ChangeTest {
         db.ok("create view v as select a from t").ok("drop table t");
         Db.due("a view that is an error", 12, prepared("select 1", "select a from v", "create table t (a int)", "drop table t"));
         db.ok("drop view v");
+        // A table, and an index, may have a lower number than the table that it tells of.
+        Db ahead = db;
+        db = new Db();
+        db.ok("create table x (a int)").ok("create table y (a int)").ok("create table t (a int unique)");
+        db.ok("drop table x").ok("create index i on t(a)").ok("drop table y").ok("create table u (a int references t(a))");
+        db.code(6, "drop table t");
+        db.ok("insert into t values (1)").ok("insert into u values (1)");
+        db.code(6, "delete from t");
+        db.ok("drop table u").ok("drop table t");
+        Db.due("the index is dropped, too", "1 1 0", db.store.trees() + " " + db.store.treePages() + " " + db.store.entriesOf(0));
+        db = ahead;
         // The texts of definitions are as they were, however long.
         String columns = "a text default 'aaaaaaaaaaaaaaaaaaaaaaaa',b text default 'bbbbbbbbbbbbbbbbbbbbbbbb'";
         db.ok("create table big (" + columns + " ".repeat(300) + ",c int,check(" + "c<>1 and ".repeat(12) + "c<50))");

@@ -295,6 +295,8 @@ public final class CheckTest {
         error(4, "insert into t values (1,^2,3),(1)");
         error(6, "insert into t ^select 1,'x'");
         error(4, "insert into t ^select 1,2,3");
+        error(4, "insert into t ^select 'x','x',3");
+        error(4, "insert into t ^select 1,'x','x'");
         right("insert into t (c,b) select a,d from u");
         error(4, "insert into t (b,c) ^select a,d from u");
         error(3, "update ^x set a=1");

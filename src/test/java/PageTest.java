@@ -15,6 +15,7 @@ public final class PageTest {
         definitions();
         splitsOfLeaves();
         joinsOfLeaves();
+        edgesOfLeaves();
         freedTrees();
         fill();
         asTheClientSees();
@@ -176,6 +177,8 @@ public final class PageTest {
         // Rows 6 and 7 go out of the middle leaf: it has 3 cells, 93 bytes, the next one 4, 124: together 217.
         db.ok("delete from t where b in (6,7)");
         Db.due("not joined", "2 2 3 0 2 4 0 6 2 5 0 11", page(2));
+        db.ok("update t set b=b where b=8");
+        Db.due("a record that is the same stays where it is", "2 2 3 0 2 4 0 6 2 5 0 11", page(2));
         db.ok("delete from t where b=8");
         // 62 + 124 are at most 200: the next one is joined to it, and freed.
         Db.due("joined with the next one", "2 1 3 0 2 4 0 6", page(2));
@@ -188,6 +191,48 @@ public final class PageTest {
         Db.due("free pages", "3 4 5", db.store.pageByte(0, 2) + " " + db.store.pageByte(3, 2) + " " + db.store.pageByte(4, 2));
         db.ok("create table u (a int)");
         Db.due("the page that was freed last is taken", 3, db.store.rootOf(2));
+    }
+
+    /** Puts in rows with texts of these lengths, which begin with a, b, c and so on. A cell has 5 bytes more. */
+    private static void addTexts(int... lengths) {
+        for (int i = 0; i < lengths.length; i++) {
+            String text = "abcdefghijklmnopqrstuvwxyz".substring(i, i + 1) + "x".repeat(lengths[i] - 1);
+            db.ok("insert into t values ('" + text + "')").store.checkpoint();
+        }
+    }
+
+    private static void edgesOfLeaves() {
+        // Cells of 28, nine times: 252, just as many as go into a page.
+        db = new Db();
+        db.ok("create table t (a text)");
+        addTexts(23, 23, 23, 23, 23, 23, 23, 23, 23);
+        Db.due("252 bytes", "1 9", db.store.pageByte(2, 0) + " " + db.store.pageByte(2, 1));
+        // 280 bytes with one more: five cells are just half of them.
+        addTexts(23);
+        Db.due("just half", "5 5", db.store.pageByte(3, 1) + " " + db.store.pageByte(4, 1));
+        // 253 bytes.
+        db = new Db();
+        db.ok("create table t (a text)");
+        addTexts(23, 23, 23, 23, 23, 23, 23, 23, 24);
+        Db.due("253 bytes", "2 5 4", db.store.pageByte(2, 0) + " " + db.store.pageByte(3, 1) + " " + db.store.pageByte(4, 1));
+        // Leaves of 142 bytes each; without three cells of 28 they have just 200 together.
+        db = new Db();
+        db.ok("create table t (a text)");
+        addTexts(23, 23, 23, 24, 24, 24, 23, 23, 23, 24);
+        Db.due("two leaves", "2 5 5", db.store.pageByte(2, 0) + " " + db.store.pageByte(3, 1) + " " + db.store.pageByte(4, 1));
+        db.ok("delete from t where a<'d'");
+        Db.due("200 bytes are joined", "1 7", db.store.pageByte(2, 0) + " " + db.store.pageByte(2, 1));
+        db = new Db();
+        db.ok("create table t (a text)");
+        addTexts(23, 23, 23, 24, 24, 24, 24, 23, 23, 24);
+        db.ok("delete from t where a<'d'");
+        Db.due("201 bytes are not", "2 2 5", db.store.pageByte(2, 0) + " " + db.store.pageByte(3, 1) + " " + db.store.pageByte(4, 1));
+        // A leaf without cells is joined, however much the other one has.
+        addTexts(23, 23, 23);
+        db.ok("delete from t where a>='d' and a<'e'");
+        Db.due("one cell and 227 bytes", "2 1 8", db.store.pageByte(2, 0) + " " + db.store.pageByte(3, 1) + " " + db.store.pageByte(4, 1));
+        db.ok("delete from t where a>='e' and a<'f'");
+        Db.due("no cell and 227 bytes", "1 8", db.store.pageByte(2, 0) + " " + db.store.pageByte(2, 1));
     }
 
     private static void freedTrees() {
