@@ -44,12 +44,16 @@ public final class GrammarTest {
         wrong("select ^_a");
         right("select abcdefghij from (select 1 as abcdefghij) t");
         wrong("select ^abcdefghijk");
+        DB.error(0, -1, "select z_09,azm from (select 1 as z_09,2 as azm) t");
+        DB.error(3, 7, "select z_08 from (select 1 as z_09) t");
+        DB.error(3, 7, "select a from (select 1 as a_) t");
         right("select 999999999999999999");
         wrong("select ^1000000000000000000");
         wrong("select 1^|2");
         wrong("select 1 ^|");
         right("select 'a'||'b'");
         right("select 'a'''");
+        right("select ' ~ !'");
         wrong("select ^'abc");
         wrong("select ^'abc''");
         wrong("select ^'a\nb'");

@@ -264,6 +264,7 @@ public final class LogTest {
         Db.due("a mark of 0", "0 262 0 0", s.checkpoint() + " " + log());
         s.use(2);
         db.query("5", "select count(*) from t");
+        db.code(7, "insert into t values (7)");
     }
 
     private static void syncs() {
