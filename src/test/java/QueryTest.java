@@ -201,6 +201,13 @@ public final class QueryTest {
         db.query("1; null", "select a from t intersect select a from t where a is null or a=1");
         db.query("", "select a from t except select a from t");
         db.query("1 'x'", "select 1,'x' union select 1,'x'");
+        // Rows are the same only if all their values are.
+        db.ok("create table w (a int,b text,c int)").ok("insert into w values (1,'x',2),(1,'x',3),(1,'y',2),(1,'x',2),(null,'x',2)");
+        db.query("1 'x' 2; 1 'x' 3; 1 'y' 2; null 'x' 2", "select distinct * from w");
+        db.query("1 'x'; 1 'y'; null 'x'; 2 'x'", "select a,b from w union select 2,'x'");
+        db.query("1 'x' 3; 1 'y' 2; null 'x' 2", "select * from w except select 1,'x',2");
+        db.query("1 'y'", "select a,b from w intersect select c-1,'y' from w");
+        db.query("'x' 2 3; 'x' 3 1; 'y' 2 1", "select b,c,count(*) from w group by b,c");
     }
 
     private static void sorting() {
