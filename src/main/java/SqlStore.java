@@ -55,6 +55,10 @@ public final class SqlStore {
     // Four values of an index key, each of a text of 60 bytes.
     private static final int KEY_BYTES = 256;
 
+    // The bounds of an int of 64 bits.
+    private static final long LEAST = 0x8000000000000000L;
+    private static final long GREATEST = 0x7fffffffffffffffL;
+
     // Kinds of values and types.
     private static final int NULL = 0;
     private static final int INT = 1;
@@ -3984,8 +3988,8 @@ public final class SqlStore {
             // Places behind the text do not matter, so the sum is cut where it would leave 64 bits.
             long first = Math.max(1, i.number);
             long end = i.number + count.number;
-            if (i.number > 0 && count.number > 0 && end < 0) end = Long.MAX_VALUE;
-            if (i.number < 0 && count.number < 0 && end >= 0) end = Long.MIN_VALUE;
+            if (i.number > 0 && count.number > 0 && end < 0) end = GREATEST;
+            if (i.number < 0 && count.number < 0 && end >= 0) end = LEAST;
             end = Math.min(end, t.length + 1);
             if (first >= end) n.value.setText(NO_BYTES, 0, 0);
             else n.value.setPart(t, (int) first - 1, (int) end - 1);
@@ -4011,7 +4015,7 @@ public final class SqlStore {
             if (n.kind == W_NOT) return put(n, a.isFalse());
             if (n.kind == W_LENGTH) n.value.setNumber(a.length);
             else if (n.kind == W_ABS && a.number >= 0) n.value.setNumber(a.number);
-            else if (a.number == Long.MIN_VALUE) n.value.clear();
+            else if (a.number == LEAST) n.value.clear();
             else n.value.setNumber(-a.number);
             return n.value;
         }
@@ -4045,7 +4049,7 @@ public final class SqlStore {
                     return putReckoned(n, a * b, fitsProduct(a, b));
                 case '/':
                     if (b == 0) return putNull(n);
-                    if (b == -1) return putReckoned(n, -a, a != Long.MIN_VALUE);
+                    if (b == -1) return putReckoned(n, -a, a != LEAST);
                     return putReckoned(n, a / b, true);
                 default:
                     if (b == 0) return putNull(n);
@@ -4061,8 +4065,8 @@ public final class SqlStore {
 
         private static boolean fitsProduct(long a, long b) {
             if (a == 0 || b == 0) return true;
-            if (a == -1) return b != Long.MIN_VALUE;
-            if (b == -1) return a != Long.MIN_VALUE;
+            if (a == -1) return b != LEAST;
+            if (b == -1) return a != LEAST;
             return a * b / b == a;
         }
 
