@@ -44,6 +44,10 @@ public final class CheckTest {
         error(3, "select t.^x from t");
         error(3, "select ^t.a from t p");
         right("select p.a from t p");
+        error(3, "select ^a0 from (select 1 as az) x");
+        error(3, "select ^a9 from (select 1 as a_) x");
+        error(3, "select ^aa from (select 1 as a) x");
+        error(3, "select ^abcdefghia from (select 1 as abcdefghi) x");
         // Behind on only the sources up to the joined one are seen.
         error(3, "select 1 from t p join u q on ^r.a=1 join t r on 1");
         right("select 1 from t p join u q on d='x' join t r on r.a=p.a");

@@ -186,6 +186,8 @@ public final class LogTest {
         s.use(0);
         db.ok("delete from t").ok("rollback to a");
         db.query("6; 7", "select a from t");
+        db.ok("commit").ok("begin").ok("savepoint a").ok("select a from t").ok("savepoint b").ok("rollback to a");
+        Db.due("without a change", "1 -1", s.savepoints(0) + " " + s.writer());
         // Definitions are kept, too.
         db.ok("savepoint b").ok("create table u (a int)").ok("rollback to b");
         db.error(3, 14, "select 1 from u");

@@ -197,7 +197,7 @@ public final class PageModelTest {
     private static TreeMap<Integer, Object[]> rows;
 
     public static void main(String[] args) {
-        for (int round = 0; round < 6; round++) round(round % 3);
+        for (int round = 0; round < 24; round++) round(round % 3);
         Db.end();
     }
 
