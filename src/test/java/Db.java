@@ -43,8 +43,9 @@ final class Db {
         return this;
     }
 
-    void code(int want, String text) {
+    Db code(int want, String text) {
         due(text, want, sql(text));
+        return this;
     }
 
     void error(int error, int place, String text) {
