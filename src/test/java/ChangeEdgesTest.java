@@ -26,6 +26,9 @@ public final class ChangeEdgesTest {
         referencesOfUpdates();
         referencesToUpdates();
         restricted();
+        referencesOfAnyColumn();
+        referencesBehindTexts();
+        passedOver();
         cascades();
         sixtyOnTheList();
         setNulls();
@@ -153,6 +156,12 @@ public final class ChangeEdgesTest {
         refused(4, "insert into t select a+4 from t");
         changed(0, "insert into t select a from t where 0");
         refused(4, "insert into t values (9),(9)");
+        // Sixty rows of a query, and eight behind values.
+        fresh("create table s (a int)", "create table u (a int)");
+        for (int i = 0; i < 60; i += 6) db.ok("insert into s values (1),(2),(3),(4),(5)," + "(" + i + ")");
+        changed(60, "insert into u select a from s");
+        db.query("60 1; 60 54", "select count(*),1 from u union all select count(*),max(a) from u");
+        fresh("create table t (a int)");
         changed(8, "insert into t values (10),(11),(12),(13),(14),(15),(16),(17)");
     }
 
@@ -415,7 +424,7 @@ public final class ChangeEdgesTest {
     /** ... then code 6, if a row of a table that references it has the old value, which was not null and is another one now. */
     private static void referencesToUpdates() {
         fresh("create table t (a int unique,b int)", "insert into t values (1,0),(2,0),(null,0)",
-            "create table u (a int references t(a) on delete cascade)", "insert into u values (1)");
+            "create table u (a int references t(a) on delete cascade)", "insert into u values (1),(null)");
         refused(6, "update t set a=3 where a=1");
         refused(6, "update t set a=null where a=1");
         changed(1, "update t set a=3 where a=2");
@@ -445,6 +454,69 @@ public final class ChangeEdgesTest {
         refused(6, "delete from s");
         changed(1, "delete from s where a=2");
         changed(1, "delete from s");
+    }
+
+    /** For each table, by the numbers of definitions, for each of its columns, in order: the first one, and the last one. */
+    private static void referencesOfAnyColumn() {
+        for (int column = 0; column < 6; column++) {
+            String[] names = {"a", "b", "c", "d", "e", "f"};
+            for (String action : new String[] {"", " on delete cascade", " on delete set null"}) {
+                StringBuilder columns = new StringBuilder();
+                for (int i = 0; i < 6; i++) columns.append(i > 0 ? "," : "").append(names[i]).append(i == column ? " int references t(k)" + action : " int");
+                // The table that references gets number 1, ahead of the other one, and then number 3, behind it.
+                for (boolean ahead : new boolean[] {true, false}) {
+                    fresh("create table x (a int)", "create table t (k int unique)", "insert into t values (7),(8),(9)");
+                    if (ahead) db.ok("drop table x");
+                    db.ok("create table u (" + columns + ")").ok("insert into u (" + names[column] + ") values (7),(null)").store.checkpoint();
+                    refused(6, "insert into u (" + names[column] + ") values (6)");
+                    refused(6, "update u set " + names[column] + "=6");
+                    refused(6, "update t set k=1 where k=7");
+                    refused(6, "update t set k=null");
+                    refused(6, "drop table t");
+                    changed(1, "update t set k=1 where k=9");
+                    changed(1, "delete from t where k=8");
+                    if (action.isEmpty()) refused(6, "delete from t where k=7");
+                    else changed(2, "delete from t where k=7");
+                    db.query(action.isEmpty() ? "2 1" : action.endsWith("null") ? "2 0" : "1 0", "select count(*),count(" + names[column] + ") from u");
+                }
+            }
+        }
+    }
+
+    /** What stands ahead of a column in a record does not matter: texts, also empty ones, nulls and long ints. */
+    private static void referencesBehindTexts() {
+        String[] ahead = {"null,null", "'',''", "'',null", "null,''", "'x',''", "'aaaaaaaaaaaaaaaaaaaaaaaa','bbbbbbbbbbbbbbbbbbbbbbbb'", "'ab','c'"};
+        for (String texts : ahead) {
+            fresh("create table t (k int unique,s text unique)", "insert into t values (7,'seven'),(300,''),(null,'n')");
+            db.ok("create table u (a text,b text,c int,k int references t(k),s text references t(s) on delete set null)");
+            db.ok("insert into u values (" + texts + ",999999999999999999,300,'n'),(" + texts + ",null,null,'seven')").store.checkpoint();
+            refused(6, "update t set k=1 where k=300");
+            refused(6, "delete from t where k=300");
+            refused(6, "update t set s='m' where s='n'");
+            changed(1, "update t set k=301 where k=7");
+            changed(2, "delete from t where k=301");
+            changed(2, "delete from t where s='n'");
+            db.query("300 null; null null", "select k,s from u");
+            changed(1, "update t set s='x' where s=''");
+            refused(6, "delete from t");
+            db.ok("delete from u where k=300");
+            changed(1, "delete from t");
+        }
+    }
+
+    /** One that is not there any more is passed over: it puts nothing on the list. */
+    private static void passedOver() {
+        fresh("create table t (k int unique)", "insert into t values (1)",
+            "create table u (a int unique,b int references t(k) on delete cascade,c int references t(k) on delete cascade)",
+            "create table w (a int references u(a) on delete cascade)");
+        for (int i = 0; i < 10; i++) db.ok("insert into u values (" + i + ",1,1)");
+        for (int i = 0; i < 39; i++) db.ok("insert into w values (9)").store.checkpoint();
+        // One row of t, ten of u, each twice, and those of w: sixty on the list.
+        changed(50, "delete from t");
+        db.ok("insert into t values (1)");
+        for (int i = 0; i < 10; i++) db.ok("insert into u values (" + i + ",1,1)").store.checkpoint();
+        for (int i = 0; i < 40; i++) db.ok("insert into w values (9)").store.checkpoint();
+        refused(8, "delete from t");
     }
 
     /** With cascade they are put at the end of the list (also one that is on it already); one that is not there any more is passed over. */

@@ -9,6 +9,8 @@ public final class CheckEdgesTest {
         fresh();
         whatIsSeen();
         whatIsNotSeen();
+        fivePlaces();
+        asTheClientSees();
         namesInTwoSources();
         orderOfChecks();
         nullFitsAll();
@@ -83,6 +85,39 @@ public final class CheckEdgesTest {
         error(3, "create view x as select ^t.a as a");
         // Limit sees nothing, keys only the columns of the query.
         error(3, "select a from t order by ^c");
+    }
+
+    /** The table of an update is seen through four queries. */
+    private static void fivePlaces() {
+        right("update t set a=(select (select (select (select t.c))))");
+        right("update t set a=(select (select (select (select c from u))))");
+        error(3, "update t set a=(select (select (select (select t.^d))))");
+        right("delete from t where 1=(select (select (select (select t.c from u))))");
+        db.ok("insert into t values (1,'x',5),(2,'x',6)").ok("update t set a=(select (select (select (select t.c))))");
+        db.query("5 5; 6 6", "select a,c from t");
+        db.ok("delete from t");
+    }
+
+    /** The statement is checked against the database as the client in use sees it, also if another one sees as long a text. */
+    private static void asTheClientSees() {
+        Db ahead = db;
+        db = new Db();
+        db.ok("create table t (a int)").ok("insert into t values (1)").ok("begin").ok("drop table t").ok("create table t (b int)");
+        for (int i = 0; i < 3; i++) {
+            right("select b from t");
+            error(3, "select ^a from t");
+            db.query("", "select b from t");
+            db.store.use(1);
+            right("select a from t");
+            error(3, "select ^b from t");
+            db.query("1", "select a from t");
+            db.store.use(0);
+        }
+        db.ok("commit");
+        db.store.use(1);
+        right("select b from t");
+        db.query("", "select b from t");
+        db = ahead;
     }
 
     /** Error 3 at a name, if two sources of the innermost place that has it have it; error 3 at the first or the second name. */

@@ -30,6 +30,12 @@ public final class DigestTest {
         check("opened", db);
         db.code(11, "commit");
         check("a code", db);
+        // Sixty rows of eight columns.
+        Db full = new Db();
+        full.ok("create table t (a int,b text)");
+        for (int i = 0; i < 60; i += 6) full.ok("insert into t values (1,'x'),(2,null),(null,'y'),(4,'zz'),(5,''),(" + i + ",'i')");
+        full.ok("select a,b,a,b,a,b,a,b from t");
+        check("a full list", full);
         Db.end();
     }
 

@@ -17,6 +17,9 @@ public final class LogEdgesTest {
         commitsOfNothing();
         sixtyFrames();
         sixtyFramesAtOnce();
+        sixtyPagesAtOnce();
+        lastPageUndone();
+        othersLookInBetween();
         rollbacks();
         fourSavepoints();
         savepointsOfOneName();
@@ -321,6 +324,112 @@ public final class LogEdgesTest {
         db.query("0 1", "select t.a,u.a from t,u");
         db.code(9, "create table w (a int)");
         Db.due("nothing made", 3, s.trees());
+    }
+
+    /** Makes all 60 pages in one transaction: leaves of five cells of 29 bytes, the last of which, page 59, has eight. */
+    private static void sixtyPages() {
+        fresh("begin", "create table t (a text)");
+        for (int i = 0; i < 288; i++) db.ok("insert into t values ('" + text(i) + "')");
+        Db.due("60 pages", "60 8", s.pages() + " " + s.pageByte(59, 1));
+    }
+
+    /** Sixty frames of one commit; all of them are copied by a checkpoint, or so many as are told. */
+    private static void sixtyPagesAtOnce() {
+        sixtyPages();
+        Db.due("all are due", 60, s.framesDue());
+        db.ok("commit");
+        Db.due("60 frames", "60+0", frames());
+        for (int page = 0; page < 60; page++) {
+            Db.due("frame " + page, page + " " + (page == 59 ? 1 : 0), s.logByte(page * FRAME) + " " + s.logByte(page * FRAME + 1));
+        }
+        check("sixty", 0);
+        Db.due("61 pages", "IllegalArgumentException", () -> s.crash(0, 61));
+        long before = pageSum();
+        s.crash(0, 60);
+        Db.due("the last page of the file", 1, s.fileByte(59, 0));
+        Db.due("open", 0, s.open());
+        Db.due("the same pages", before, pageSum());
+        Db.due("checkpoint", 60, s.checkpoint());
+        Db.due("the same pages of the file", before, pageSum());
+        s.crash(0, 0);
+        Db.due("nothing to cut off", 0, s.open());
+        Db.due("the same pages again", before, pageSum());
+        sixtyPages();
+        db.ok("commit");
+        s.crash(0, 59);
+        Db.due("all but the last page", "1 0", s.fileByte(58, 0) + " " + s.fileByte(59, 0));
+        s.open();
+        Db.due("the last page is in the log", 1, s.pageByte(59, 0));
+        Db.due("checkpoint", "60 1", s.checkpoint() + " " + s.fileByte(59, 0));
+    }
+
+    private static long pageSum() {
+        long d = 0;
+        for (int page = 0; page < s.pages(); page++) {
+            for (int i = 0; i < 256; i++) d = d * 31 + s.pageByte(page, i);
+        }
+        return d;
+    }
+
+    /** What is undone is undone up to the last byte of the last page. */
+    private static void lastPageUndone() {
+        sixtyPages();
+        db.ok("commit");
+        s.checkpoint();
+        long before = pageSum();
+        String last = "'" + text(287) + "'";
+        db.ok("begin").ok("select 1").ok("savepoint p").ok("update t set a='z' where a=" + last);
+        Db.due("page 59 is due", 1, s.framesDue());
+        long changed = pageSum();
+        db.ok("savepoint q").ok("delete from t where a>='" + text(285) + "'");
+        Db.due("three rows less", 5, s.pageByte(59, 1));
+        long less = pageSum();
+        db.code(9, "insert into t values ('y1" + "x".repeat(22) + "'),('y2" + "x".repeat(22) + "'),('y3" + "x".repeat(22) + "'),('y4" + "x".repeat(22) + "')");
+        Db.due("a code undoes it", less, pageSum());
+        db.ok("rollback to q");
+        Db.due("rolled back to q", changed, pageSum());
+        db.ok("rollback to p");
+        Db.due("rolled back to p", before, pageSum());
+        Db.due("nothing is due", 0, s.framesDue());
+        db.ok("delete from t where a=" + last).ok("rollback");
+        Db.due("rolled back", before, pageSum());
+        db.code(9, "insert into t values ('" + text(288) + "')");
+        Db.due("undone", before, pageSum());
+    }
+
+    private static String text(int i) {
+        return ("" + (1000 + i)).substring(1) + "x".repeat(21);
+    }
+
+    /** What is due, appended and rolled back is reckoned by the own mark, whatever another client has looked at in between. */
+    private static void othersLookInBetween() {
+        for (int kind = 0; kind < 4; kind++) {
+            fresh("create table t (a int)", "create table u (a int)", "insert into t values (1)", "insert into u values (1)");
+            s.use(1);
+            db.ok("begin").ok("select a from t");
+            as(0, "insert into t values (2)", 0);
+            as(0, "insert into u values (2)", 0);
+            int frames = s.logBytes() / FRAME;
+            db.ok("begin").ok("savepoint p").ok("insert into t values (3)");
+            as(1, "select a from t", 0);
+            rows("1");
+            s.use(0);
+            if (kind == 0) Db.due("one page is due", 1, s.framesDue());
+            if (kind == 1) db.ok("rollback to p");
+            if (kind == 3) {
+                as(1, "savepoint p", 0);
+                as(1, "rollback to p", 0);
+                s.use(0);
+                rows("1; 2; 3");
+                s.use(1);
+                rows("1");
+            }
+            as(0, "commit", 0);
+            Db.due("frames", frames + (kind == 1 ? 0 : 1), s.logBytes() / FRAME);
+            rows(kind == 1 ? "1; 2" : "1; 2; 3");
+            db.query("1; 2", "select a from u");
+            check("behind another look", 0);
+        }
     }
 
     /** rollback: what it has changed is forgotten. */

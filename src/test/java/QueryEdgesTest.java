@@ -21,8 +21,10 @@ public final class QueryEdgesTest {
         parts();
         joinedCores();
         limits();
+        sixtySorted();
         combinations();
         leftJoins();
+        eightColumns();
         groups();
         aggregates();
         sumsOnTheWay();
@@ -37,6 +39,7 @@ public final class QueryEdgesTest {
         oneOfSeveral();
         foundEntries();
         boundsThatAreNull();
+        threeColumns();
         askedOfSlots();
         Db.end();
     }
@@ -229,7 +232,7 @@ public final class QueryEdgesTest {
             {"abc", "a%c"}, {"ac", "a%c"}, {"aaab", "%ab"}, {"abab", "%ab"}, {"abcabd", "%ab_"}, {"a%b", "a%b"}, {"a_b", "a_b"}, {"%", "_"},
             {"aXbXc", "%X%X%"}, {" ", " "}, {"a b", "a_b"}, {"aab", "%a%ab"}};
         String[][] wrong = {{"", "_"}, {"", "a"}, {"a", ""}, {"a", "__"}, {"a", "b"}, {"ab", "_"}, {"ab", "a"}, {"ab", "b"}, {"abc", "a%b"}, {"a", "A"},
-            {"abc", "%_%_%_%_%"}, {"aab", "a%aab"}, {"a", "%a_"}, {"abd", "ab%c"}, {"axb", "a%%c"}, {"ab", "b%"}, {"ab", "%a"}};
+            {"abc", "%_%_%_%_%"}, {"aab", "a%aab"}, {"a", "%a_"}, {"abd", "ab%c"}, {"axb", "a%%c"}, {"abcdx", "%bcd%cd%"}, {"aab", "%ab%b"}, {"ab", "b%"}, {"ab", "%a"}};
         for (String[] r : right) is("1 0", "'" + r[0] + "' like '" + r[1] + "','" + r[0] + "' not like '" + r[1] + "'");
         for (String[] w : wrong) is("0 1", "'" + w[0] + "' like '" + w[1] + "','" + w[0] + "' not like '" + w[1] + "'");
         is("null null null null", "null like '%','a' like null,null not like null,'a' not like null");
@@ -314,6 +317,25 @@ public final class QueryEdgesTest {
         db.query("1 1; 1 3; 2 2", "select x,y from (select 2 as x,2 as y union all select 1,3 union all select 1,1) p order by x,2");
     }
 
+    /** All sixty rows of a list are sorted, and may stay, or be left out. */
+    private static void sixtySorted() {
+        db = new Db();
+        fill("t", 60);
+        StringBuilder down = new StringBuilder("59");
+        for (int i = 58; i >= 0; i--) down.append("; ").append(i);
+        db.query(down.toString(), "select a from t order by a desc");
+        db.query(down.toString(), "select a from t order by a desc limit 60");
+        db.query(down.substring(4), "select a from t order by a desc limit 60 offset 1");
+        db.query("0", "select a from t order by a desc limit 60 offset 59");
+        db.query("", "select a from t limit 60 offset 60");
+        db.query("59", "select a from t limit 1 offset 59");
+        db.query("59 0 1770 60", "select max(a),min(a),sum(a),count(a) from (select a from t order by a desc) x");
+        // The last row of a full list is one as any other.
+        db.query("59", "select a from t except select a from t where a<59");
+        db.query("59", "select a from t intersect select 59");
+        db.query("1 0", "select 59 in (select a from t),60 in (select a from t)");
+    }
+
     /** For each combination of rows of the sources ahead the rows of the next one; without from there is one, of no rows. */
     private static void combinations() {
         db = new Db();
@@ -346,8 +368,21 @@ public final class QueryEdgesTest {
         db.query("", "select t.a from t left join e on 1 where e.a=1");
         db.query("", "select t.a from t left join t q on t.a=q.a where q.a is null");
         db.query("2 0; 1 0", "select t.a,count(e.a) from t left join e on 1 group by t.a");
+        db.query("2 null; 1 1", "select t.a,x.b from t left join (select 1 as b union select 5) x on x.b=t.a");
+        Db.due("steps with a list", 2 + 4, db.store.steps());
         db.query("2 null", "select t.a,x.b from t left join (select 5 as b) x on x.b=t.a limit 1");
         db.query("null null", "select e.a,x.b from (select 1 as k) y left join e on 1 left join (select 2 as b) x on x.b=e.a");
+    }
+
+    /** A source may have eight columns, a query or a view as well. */
+    private static void eightColumns() {
+        String eight = "select 1 as a,2 as b,3 as c,4 as d,'e' as e,6 as f,7 as g,'h' as h";
+        db.query("1 2 3 4 'e' 6 7 'h'", "select * from (" + eight + ") x");
+        db.query("'h' 7 1", "select h,x.g,a from (" + eight + ") x");
+        db.query("null null", "select x.h,x.a from (select 1 as k) y left join (" + eight + ") x on 0");
+        db.ok("create view v as " + eight);
+        db.query("'h' 'e'", "select p.h,q.e from v p join v q on p.h=q.h and p.a=q.a");
+        db.query("1 2 3 4 'e' 6 7 'h'; 1 2 3 4 'e' 6 7 'h'", "select * from v union all select * from v order by 8,1");
     }
 
     /** Without group by there is one group, also if there is no combination. */
@@ -681,6 +716,23 @@ public final class QueryEdgesTest {
         db.prepare(3, "select c from t where c=$");
         db.tape("a".repeat(60)).store.bindText(3, 0);
         Db.due("a text that no row can have", "0 0 0", db.store.run(3) + " " + db.store.rows() + " " + db.store.steps());
+    }
+
+    /** An index of three columns, of which one, two or all three are equal. */
+    private static void threeColumns() {
+        db = new Db();
+        db.ok("create table t (a int,b text,c int)").ok("create index i on t(a,b,c)");
+        db.ok("insert into t values (1,'x',1),(1,'x',2),(1,'y',1),(2,'x',1),(1,'x',1),(1,'x',null)");
+        found("1; 1; 1; 1; 1", 10, "select a from t where a=1");
+        found("1; 2; 1; null", 8, "select c from t where a=1 and b='x'");
+        found("1; 1", 4, "select c from t where a=1 and b='x' and c=1");
+        found("2", 2, "select c from t where c>1 and b='x' and a=1");
+        found("", 0, "select c from t where a=1 and b='x' and c=null");
+        found("", 0, "select c from t where a=1 and b='x' and c=3");
+        db.ok("update t set c=9 where a=1 and b='x' and c=1");
+        Db.due("steps and rows of an update", "4 2", db.store.steps() + " " + db.store.changed());
+        db.ok("delete from t where a=1 and b='x' and c=9");
+        Db.due("steps and rows of a delete", "4 2", db.store.steps() + " " + db.store.changed());
     }
 
     private static void found(String want, int steps, String text) {

@@ -197,6 +197,17 @@ public final class RefusedTest {
         for (int place = 0; place < 12; place++) Db.due("bindNull " + place, place, s.bindNull(0, place));
         s.run(0);
         Db.due("nulls", "null null null null null null null null", db.told());
+        // All twelve are null again behind a prepare.
+        for (int slot : new int[] {0, 7}) {
+            String twelve = "select ?+?+?,?+?+?,?+?+?,?+?+?";
+            db.prepare(slot, twelve);
+            for (int place = 0; place < 12; place++) s.bindNumber(slot, place, place);
+            s.run(slot);
+            Db.due("ints", "3 12 21 30", db.told());
+            db.prepare(slot, "select coalesce(?,-1),coalesce(?,-1),coalesce(?,-1),coalesce(?,-1),?+?,?+?,?+?,coalesce(?,?)");
+            s.run(slot);
+            Db.due("nulls behind a prepare", "-1 -1 -1 -1 null null null null", db.told());
+        }
         db.prepare(0, "select ?");
         for (long n : new long[] {Long.MIN_VALUE, Long.MAX_VALUE, 0, -1}) {
             s.bindNumber(0, 0, n);

@@ -29,6 +29,7 @@ public final class TreeEdgesTest {
         records();
         treesInOrder();
         asEachClientSees();
+        eachAnswerAlone();
         framesThatAreDue();
         Db.end();
     }
@@ -588,6 +589,51 @@ public final class TreeEdgesTest {
         Db.due("by its mark", "3 2 1", db.store.pages() + " " + db.store.trees() + " " + db.store.entriesOf(1));
         db.ok("rollback");
         Db.due("by the newest one", "4 3 2", db.store.pages() + " " + db.store.trees() + " " + db.store.entriesOf(1));
+    }
+
+    /** Each of the calls looks anew at what the client in use sees, whatever was asked ahead of it. */
+    private static void eachAnswerAlone() {
+        fresh("create table t (a int unique)", "create table x (a int)", "drop table x", "insert into t values (1)");
+        db.prepare(5, "select 1 from t where a=1");
+        db.ok("begin").ok("drop table t").ok("create table u (a int)").ok("create view v as select a from u").ok("insert into u values (1),(2),(3)");
+        Object[] ofWriter = answers();
+        db.store.use(1);
+        Object[] ofOther = answers();
+        for (int i = 0; i < ofWriter.length; i++) {
+            Db.due("they differ, call " + i, false, ofWriter[i].equals(ofOther[i]));
+            for (int k = 0; k < ofWriter.length; k++) {
+                db.store.use(0);
+                answer(k);
+                db.store.use(1);
+                Db.due("call " + i + " behind call " + k + " of another client", ofOther[i], answer(i));
+                answer(k);
+                db.store.use(0);
+                Db.due("call " + i + " of the writer behind call " + k, ofWriter[i], answer(i));
+            }
+        }
+    }
+
+    private static Object[] answers() {
+        Object[] list = new Object[12];
+        for (int i = 0; i < list.length; i++) list[i] = answer(i);
+        return list;
+    }
+
+    private static Object answer(int call) {
+        return switch (call) {
+            case 0 -> db.store.pageByte(0, 2) * 1000 + db.store.pageByte(1, 1);
+            case 1 -> db.store.freePages();
+            case 2 -> db.store.treePages();
+            case 3 -> db.store.trees();
+            case 4 -> db.store.rootOf(1);
+            case 5 -> db.store.entriesOf(1);
+            case 6 -> db.store.meanFill();
+            case 7 -> db.store.framesDue();
+            case 8 -> db.store.indexUsed(5, 0);
+            case 9 -> db.store.worthOf(5, 0);
+            case 10 -> db.prepare(6, "select") + db.store.digest();
+            default -> db.prepare(6, "select nope from u") * 1000 + db.store.errorAt();
+        };
     }
 
     /** How many pages are not as the mark of the client in use tells; 0 if it has no mark. */
