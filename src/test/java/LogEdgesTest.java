@@ -378,7 +378,9 @@ public final class LogEdgesTest {
         s.checkpoint();
         long before = pageSum();
         String last = "'" + text(287) + "'";
-        db.ok("begin").ok("select 1").ok("savepoint p").ok("update t set a='z' where a=" + last);
+        db.ok("begin").ok("select 1").ok("savepoint p").code(9, "insert into t values ('" + text(288) + "')");
+        Db.due("a code undoes what is full", before, pageSum());
+        db.ok("update t set a='z' where a=" + last);
         Db.due("page 59 is due", 1, s.framesDue());
         long changed = pageSum();
         db.ok("savepoint q").ok("delete from t where a>='" + text(285) + "'");

@@ -596,6 +596,7 @@ public final class TreeEdgesTest {
         fresh("create table t (a int unique)", "create table x (a int)", "drop table x", "insert into t values (1)");
         db.prepare(5, "select 1 from t where a=1");
         db.ok("begin").ok("drop table t").ok("create table u (a int)").ok("create view v as select a from u").ok("insert into u values (1),(2),(3)");
+        db.ok("create view w as select a from u where " + "(a<>1 or a<>3) and ".repeat(10) + "a<>2");
         Object[] ofWriter = answers();
         db.store.use(1);
         Object[] ofOther = answers();
@@ -614,7 +615,7 @@ public final class TreeEdgesTest {
     }
 
     private static Object[] answers() {
-        Object[] list = new Object[12];
+        Object[] list = new Object[13];
         for (int i = 0; i < list.length; i++) list[i] = answer(i);
         return list;
     }
@@ -631,7 +632,8 @@ public final class TreeEdgesTest {
             case 7 -> db.store.framesDue();
             case 8 -> db.store.indexUsed(5, 0);
             case 9 -> db.store.worthOf(5, 0);
-            case 10 -> db.prepare(6, "select") + db.store.digest();
+            case 10 -> db.store.levelsOf(0);
+            case 11 -> db.prepare(6, "select") + db.store.digest();
             default -> db.prepare(6, "select nope from u") * 1000 + db.store.errorAt();
         };
     }
