@@ -1301,13 +1301,9 @@ public final class SqlStore {
             scope.sources = source;
         }
 
-        void shareColumns(Definition other) {
+        void shareNames(Definition other) {
             columnCount = other.columnCount;
-            for (int i = 0; i < columnCount && i < TABLE_COLUMNS; i++) {
-                columns[i] = other.columns[i];
-                names[i] = other.names[i];
-                types[i] = other.types[i];
-            }
+            for (int i = 0; i < columnCount && i < TABLE_COLUMNS; i++) names[i] = other.names[i];
         }
 
         private void addOwnIndices() {
@@ -4905,7 +4901,7 @@ public final class SqlStore {
             int root = tree.takeLeaf();
             Definition made = checker.made;
             made.begin(TABLE, 0);
-            made.shareColumns(d);
+            made.shareNames(d);
             made.addIndex(root, s.mode == W_UNIQUE, s.list, 0);
             int row = runner.take(d.columnCount);
             tree.seekFirst(d.root());

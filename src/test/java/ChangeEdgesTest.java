@@ -35,6 +35,7 @@ public final class ChangeEdgesTest {
         setNullOfAny();
         setNullIsExamined();
         circles();
+        noSteps();
         numbersOfDefinitions();
         textsOfDefinitions();
         mostIndices();
@@ -615,6 +616,30 @@ public final class ChangeEdgesTest {
         // First set to null by the one column, then put on the list by the other.
         changed(3, "delete from t");
         rows("", "u");
+    }
+
+    /** Looking for rows by references, for unique values and for greatest numbers, and making an index, takes no steps. */
+    private static void noSteps() {
+        fresh("create table t (a int unique)", "create table u (a int references t(a) on delete cascade,b int references t(a) on delete set null)",
+            "create table w (a int references t(a))");
+        steps(0, "insert into t values (1),(2),(3),(4),(5)");
+        steps(0, "insert into u values (1,1),(1,2),(2,2),(3,1)");
+        steps(0, "insert or replace into t values (1)");
+        steps(0, "insert or ignore into t values (1),(6)");
+        steps(0, "create unique index i on u(a,b)");
+        steps(6, "update t set a=a");
+        steps(2, "update t set a=9 where a=6");
+        steps(2, "delete from t where a=9");
+        db.query("2 2; 3 null", "select * from u");
+        // The index finds one entry; what cascades and is set to null takes no steps.
+        steps(2, "delete from t where a=2");
+        Db.due("a row is set to null, and taken out", 3, db.store.changed());
+        steps(4, "delete from t where a+0=3 or a+0=7 or 0");
+    }
+
+    private static void steps(int want, String text) {
+        db.ok(text);
+        Db.due("steps of " + text, want, db.store.steps());
     }
 
     // ---- 9. Definitions

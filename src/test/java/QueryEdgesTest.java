@@ -33,6 +33,7 @@ public final class QueryEdgesTest {
         stepsToTheLast();
         stepsOfIndices();
         stepsOfLists();
+        deepest();
         usableParts();
         notUsableParts();
         worths();
@@ -580,6 +581,31 @@ public final class QueryEdgesTest {
         steps(0, "select 1 union select 2");
         steps(3 + 3, "select a from u union select a from u");
         steps(3, "select count(*) from u order by 1 limit 0");
+    }
+
+    /** What the bounds let stand in each other: four queries, eight brackets, heights of 16, four sources each. */
+    private static void deepest() {
+        db = new Db();
+        db.ok("create table t (a int unique)").ok("insert into t values (1)");
+        String q = "select a" + "+1".repeat(15) + " from t";
+        for (int i = 0; i < 3; i++) q = "select (" + q + ")" + "+1".repeat(15) + " from t p,t q,t r where p.a=q.a and q.a=r.a";
+        db.query("61", q);
+        String cases = "a";
+        for (int i = 0; i < 7; i++) cases = "case when a=1 then " + cases + "+1 else 0 end";
+        db.query("8", "select " + cases + " from t");
+        String brackets = "a";
+        for (int i = 0; i < 7; i++) brackets = "1-(" + brackets + "*1)";
+        db.query("0", "select " + brackets + " from t");
+        db.query("7", "select ((((((((a+1)+1)+1)+1)+1)+1)))+0 from t");
+        String calls = "a";
+        for (int i = 0; i < 7; i++) calls = "abs(-" + calls + ")";
+        db.query("1", "select " + calls + " from t");
+        String sources = "select a from t";
+        for (int i = 0; i < 3; i++) sources = "select x.a from (" + sources + ") x join t y on x.a=y.a left join t z on z.a=x.a and z.a>0";
+        db.query("1", sources);
+        db.ok("create view v as select x.a from t x,t y where x.a in (select a from t z where z.a=x.a)");
+        db.ok("create view w as select p.a from v p,v q where p.a=q.a");
+        db.query("1", "select a from w");
     }
 
     // ---- 7. Which index
