@@ -22,6 +22,7 @@ public final class ChangeEdgesTest {
         updatesByOldValues();
         updatesRowByRow();
         updatesThatChangeNothing();
+        updatesOfOneByte();
         referencesOfNewRows();
         referencesOfUpdates();
         referencesToUpdates();
@@ -185,6 +186,9 @@ public final class ChangeEdgesTest {
         refused(10, "insert into t values (1," + TEXT24 + "||'b','')");
         refused(10, "insert into t values (1,''," + TEXT24 + "||'b')");
         refused(10, "insert into t (b) select b||'b' from t");
+        db.ok("create table f (a text,b int)").ok("insert into f values ('',1)");
+        refused(10, "insert into f values (" + TEXT24 + "||'b',1)");
+        refused(10, "update f set a=" + TEXT24 + "||'b'");
         refused(10, "update t set c=b||'b'");
         changed(1, "update t set c=substr(b,2,23)||'b'");
         db.prepare(1, "insert into t (b) values ($)");
@@ -389,6 +393,18 @@ public final class ChangeEdgesTest {
         Db.due("only the tree of the table", bytes + 262, db.store.logBytes());
         changed(1, "update t set a=3 where a=1");
         Db.due("the table and its index", bytes + 3 * 262, db.store.logBytes());
+    }
+
+    /** Records that differ in one byte alone: an empty text and null, two ints, two texts. */
+    private static void updatesOfOneByte() {
+        fresh("create table t (a text,b int)", "create index i on t(a)", "insert into t values ('',1)");
+        String[] texts = {"null,1", "'',1", "'',-1", "null,-1", "'a',-1", "'b',-1", "'b',2", "'',2", "null,2"};
+        for (String text : texts) {
+            String[] values = text.split(",");
+            changed(1, "update t set a=" + values[0] + ",b=" + values[1]);
+            rows(text.replace(',', ' '), "t");
+            db.query("1", "select count(*) from t where " + (values[0].equals("null") ? "a is null" : "a=" + values[0]));
+        }
     }
 
     /** A new row: if no row of that table has this value in that column, code 6 (its own row counts, too). */

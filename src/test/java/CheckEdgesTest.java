@@ -276,6 +276,13 @@ public final class CheckEdgesTest {
         right("delete from u where (select count(*))");
         error(5, "create table x (a int,check(^count(*)))");
         right("select count(*) from t having max(a)>1 order by 1");
+        // Behind a query in an expression, or a source, it is the core around it again.
+        right("select (select 1),count(*),max(a) from t");
+        right("select exists (select count(*) from u),max(a) from t having (select 1)=min(a)");
+        error(5, "select (select 1 from u),^a,count(*) from t");
+        error(5, "select 1 from t where exists (select count(*) from u) and ^max(a)=1");
+        right("select max(x.a) from (select 1 as a) x having 1 in (select 2) and count(*)>0");
+        error(5, "update t set a=(select max(a) from u)+^max(a)");
     }
 
     /** A core is grouped, if it has a group by or a having, or if an aggregate belongs to it. */

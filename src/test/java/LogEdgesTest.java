@@ -738,9 +738,11 @@ public final class LogEdgesTest {
         db.ok("begin").ok("select a from t").ok("savepoint p");
         s.use(2);
         db.ok("begin").ok("insert into t values (1)").ok("savepoint p").ok("savepoint q").ok("select a from t");
+        db.prepare(1, "begin");
+        Db.due("a code", 11, s.run(1));
         db.prepare(0, "select");
         db.tape("abc");
-        Db.due("an error", 6, s.errorAt());
+        Db.due("an error", "6 11", s.errorAt() + " " + s.code());
         s.crash(0, 0);
         for (int client = 0; client < 3; client++) Db.due("client " + client, "-1 none 0", client(client));
         for (int slot = 0; slot < 8; slot++) Db.due("slot " + slot, -1, s.parameters(slot));
@@ -868,6 +870,14 @@ public final class LogEdgesTest {
         fresh("create table t (a int unique)", "insert into t values (1),(2),(3)");
         db.ok("select a from t");
         Db.due("a query", "0 3 1 0 3", told());
+        s.crash(0, 0);
+        Db.due("a crash forgets it", "0 0 0 0 0", told());
+        s.open();
+        db.ok("update t set a=a");
+        Db.due("changed", "0 0 0 3 3", told());
+        s.crash(0, 0);
+        Db.due("a crash forgets that", "0 0 0 0 0", told());
+        s.open();
         db.ok("select a from t where 0");
         Db.due("without rows", "0 0 1 0 3", told());
         db.ok("update t set a=a");

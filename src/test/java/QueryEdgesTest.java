@@ -41,6 +41,7 @@ public final class QueryEdgesTest {
         foundEntries();
         boundsThatAreNull();
         threeColumns();
+        firstDefinition();
         askedOfSlots();
         Db.end();
     }
@@ -402,6 +403,8 @@ public final class QueryEdgesTest {
         db.query("2; 1", "select distinct count(*) from t group by a");
         db.query("2 2", "select a,a from t group by a,a limit 1");
         db.query("1", "select count(*) where 1");
+        db.query("7 5 2", "select (select 7),count(*),(select max(a) from t) from t");
+        db.query("4 5", "select (select count(b) from t q where q.b<5),count(*) from t having (select count(*) from t)=count(b)");
         db.query("0", "select count(*) where 0");
         db.query("5 5", "select count(*),count(1) from t");
     }
@@ -721,6 +724,12 @@ public final class QueryEdgesTest {
         found("0; 9223372036854775807", 4, "select b from t where a=1 and 0<=b");
         found("-1; 0", 4, "select b from t where a=1 and b between -1 and 0");
         found("", 0, "select b from t where a=1 and b between 0 and -1");
+        found("-9223372036854775808; -1", 4, "select b from t where a=1 and 0>b");
+        found("-9223372036854775808; -1; 0", 6, "select b from t where a=1 and 0>=b");
+        found("9223372036854775807", 2, "select b from t where a=1 and 0<b");
+        found("-1; 0", 4, "select b from t where a=1 and -1<=b and 0>=b");
+        found("0", 2, "select b from t where a=1 and -1<b and 1>b");
+        found("", 0, "select b from t where a=1 and 0>b and 0<=b");
         found("", 0, "select b from t where a=1 and b>0 and b<0");
         found("0", 2, "select b from t where a=1 and b=0");
         found("", 0, "select b from t where a=3");
@@ -759,6 +768,17 @@ public final class QueryEdgesTest {
         Db.due("steps and rows of an update", "4 2", db.store.steps() + " " + db.store.changed());
         db.ok("delete from t where a=1 and b='x' and c=9");
         Db.due("steps and rows of a delete", "4 2", db.store.steps() + " " + db.store.changed());
+    }
+
+    /** An index that has a smaller number than its table is one as any other. */
+    private static void firstDefinition() {
+        db = new Db();
+        db.ok("create table x (a int)").ok("create table t (a int,b int)").ok("drop table x").ok("create index i on t(b)").ok("insert into t values (1,5),(2,6)");
+        Db.due("trees", "3 2", db.store.trees() + " " + db.store.entriesOf(1));
+        found("2", 2, "select a from t where b=6");
+        used("0:2", "select a from t where b=6");
+        db.ok("delete from t where b=5");
+        Db.due("entries", "1 1", db.store.entriesOf(1) + " " + db.store.entriesOf(2));
     }
 
     private static void found(String want, int steps, String text) {

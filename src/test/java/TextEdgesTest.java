@@ -241,6 +241,12 @@ public final class TextEdgesTest {
         wrong("select 1<^");
         wrong("select 1>=^");
         wrong("select 1 ^!=2");
+        wrong("select 1>^||'a'");
+        wrong("select 1<^||'a'");
+        wrong("select 'a'||^>1");
+        wrong("select (^=1)");
+        wrong("select (1)^)=1");
+        right("select (1)=1,(1)>(0),(1)<=(1),-1>-2,?=?,?>?,$<>$");
         for (char c : "!\"#&:;@[\\]^`{}~|\u0080".toCharArray()) {
             db.error(1, 9, "select 1 " + c + " 2");
             db.error(1, 8, "select 1" + c);

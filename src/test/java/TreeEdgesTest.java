@@ -661,5 +661,20 @@ public final class TreeEdgesTest {
         db.ok("commit");
         Db.due("as many frames", bytes + 262, db.store.logBytes());
         Db.due("none behind it", 0, db.store.framesDue());
+        // A page that differs in its last byte, and one that differs in its first byte behind the head of it.
+        fresh("create table t (a text)", "create table u (a text)");
+        for (int i = 1; i <= 9; i++) {
+            add(i, 23);
+            db.ok("insert into u values ('" + text(i, 23) + "')").store.checkpoint();
+        }
+        Db.due("full leaves", "9 9", shape(1) + " " + shape(2));
+        String[] tables = {"t", "u"};
+        for (int k = 0; k < 2; k++) {
+            db.ok("begin").ok("update " + tables[k] + " set a='" + text(9, 22) + "y' where a='" + text(9, 23) + "'");
+            Db.due("the last byte of page " + (2 + k), (int) 'y', db.store.pageByte(2 + k, 255));
+            Db.due("one page", 1, db.store.framesDue());
+            db.ok("commit");
+            Db.due("its frame", 2 + k, db.store.logByte(db.store.logBytes() - 262));
+        }
     }
 }
