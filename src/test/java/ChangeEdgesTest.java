@@ -41,6 +41,7 @@ public final class ChangeEdgesTest {
         textsOfDefinitions();
         mostIndices();
         indicesThatAreMade();
+        indicesOfAnyColumn();
         drops();
         viewsOfWhatIsGone();
         codesChangeNothing();
@@ -744,6 +745,23 @@ public final class ChangeEdgesTest {
         changed(0, "insert or ignore into t values (2,'x')");
         refused(4, "update t set a=2 where b='y' or a=2 and b='x' or b='x' and a=1");
         db.query("3; 3", "select a from t where a=3");
+    }
+
+    /** Each column of the table may be in an index that is made of its rows, whatever was made ahead of it. */
+    private static void indicesOfAnyColumn() {
+        for (String column : new String[] {"a", "b", "c", "d", "e", "f"}) {
+            fresh("create table t (a int,b int,c int,d int,e int,f int)", "create table x (u int,v int,w int,x int,y int,z int)");
+            db.ok("insert into t values (1,2,3,4,5,6),(11,12,13,14,15,16),(1,2,3,4,5,6)");
+            refused(4, "create unique index i on t(" + column + ")");
+            changed(0, "create index i on t(" + column + ")");
+            int value = "abcdef".indexOf(column) + 1;
+            db.query(value + "; " + value, "select " + column + " from t where " + column + "=" + value);
+            Db.due("steps", 4, db.store.steps());
+            db.query("" + (value + 10), "select " + column + " from t where " + column + ">" + value);
+            db.ok("delete from t where " + column + "=" + value).ok("drop index i");
+            changed(0, "create unique index i on t(" + column + (column.equals("f") ? ",a)" : ",f)"));
+            Db.due("entries", 1, db.store.entriesOf(3));
+        }
     }
 
     /** drop table: code 6, if another table has references to it; with it go its indices; what was made by unique has no name. */
