@@ -178,6 +178,16 @@ public final class ChangeEdgesTest {
         rows("-5 'x'y' 1 null 999999999999999999 'f'; null 'x'y' null null 999999999999999999 'g'; -5 'x'y' null 7 999999999999999999 'f';"
             + " -5 'x'y' null 8 999999999999999999 'f'; 1 'b' 2 3 4 'h'", "t");
         refused(3, "insert into t (f) values (null)");
+        // A default, and all that may stand around it.
+        fresh("create table s (a int unique)", "insert into s values (5)");
+        db.ok("create table u (x int,a int not null unique default 5 references s(a) on delete cascade,b int default null references s(a),c int references s(a))");
+        changed(1, "insert into u (x) values (1)");
+        rows("1 5 null null", "u");
+        refused(4, "insert into u (x) values (2)");
+        refused(6, "insert into u (a) values (6)");
+        refused(6, "insert into u (a,b) values (7,5)");
+        changed(2, "delete from s");
+        refused(6, "insert into u (x) values (1)");
     }
 
     /** A text of more than 24 bytes in a column: code 10. */

@@ -28,6 +28,7 @@ public final class LogEdgesTest {
         code11();
         checkpoints();
         checkpointsWithMarks();
+        checkpointsOfAnyClient();
         checkpointsOfLeastMarks();
         unsafeBytes();
         lostBytes();
@@ -613,6 +614,33 @@ public final class LogEdgesTest {
         rows("1; 2; 3");
     }
 
+    /** The least mark, whichever client has it. */
+    private static void checkpointsOfAnyClient() {
+        int[][] orders = {{0, 1}, {1, 0}, {2, 0}, {0, 2}, {1, 2}, {2, 1}};
+        for (int[] order : orders) {
+            int other = 3 - order[0] - order[1];
+            fresh("create table t (a int)", "insert into t values (1)");
+            as(order[0], "begin", 0);
+            as(order[0], "select a from t", 0);
+            as(other, "insert into t values (2)", 0);
+            as(order[1], "begin", 0);
+            as(order[1], "select a from t", 0);
+            as(other, "insert into t values (3)", 0);
+            Db.due("the least mark", "3 6+0 0 4", s.checkpoint() + " " + log());
+            Db.due("one row", 1, s.fileByte(2, 1));
+            as(order[0], "commit", 0);
+            Db.due("the other mark", "3 6+0 0 5", s.checkpoint() + " " + log());
+            Db.due("two rows", 2, s.fileByte(2, 1));
+            s.use(order[1]);
+            rows("1; 2");
+            // A crash in a checkpoint copies by the least mark as well.
+            s.crash(0, 3);
+            Db.due("used", "6+0 0 5", log());
+            s.open();
+            rows("1; 2; 3");
+        }
+    }
+
     /** A mark of 0 copies nothing, and keeps the log. */
     private static void checkpointsOfLeastMarks() {
         fresh();
@@ -882,6 +910,11 @@ public final class LogEdgesTest {
         Db.due("without rows", "0 0 1 0 3", told());
         db.ok("update t set a=a");
         Db.due("an update", "0 0 0 3 3", told());
+        db.ok("insert into t select a+10 from t where a=1");
+        Db.due("an insert of a query", "0 0 0 1 2", told());
+        db.ok("create view v as select a from t");
+        Db.due("a create view", "0 0 0 0 0", told());
+        db.ok("drop view v").ok("delete from t where a=11");
         db.code(4, "insert into t select a from t");
         Db.due("a code", "4 0 0 0 3", told());
         db.code(4, "update t set a=1 where a+0=3");

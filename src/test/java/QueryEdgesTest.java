@@ -19,6 +19,7 @@ public final class QueryEdgesTest {
         likes();
         cases();
         parts();
+        rowAfterRow();
         joinedCores();
         limits();
         sixtySorted();
@@ -275,6 +276,39 @@ public final class QueryEdgesTest {
         bound("null", "select substr(null,?,?)", 1L, 1L);
         bound("''", "select substr('',?,?)", 1L, 1L);
         is("0 24 null", "length(''),length('aaaaaaaaaaaaaaaaaaaaaaaa'),length(null)");
+    }
+
+    /** What an expression is for one row does not matter for the next one: null is null again. */
+    private static void rowAfterRow() {
+        db = new Db();
+        db.ok("create table t (a int,b text)");
+        db.prepare(3, "insert into t values (?,$)");
+        Long[] ints = {1L, GREATEST, null, LEAST, 2L};
+        String[] texts = {"x", "y".repeat(24), null, "", "x"};
+        for (int i = 0; i < 5; i++) {
+            if (ints[i] == null) db.store.bindNull(3, 0);
+            else db.store.bindNumber(3, 0, ints[i]);
+            if (texts[i] == null) db.store.bindNull(3, 1);
+            else db.tape(texts[i]).store.bindText(3, 1);
+            Db.due("code", 0, db.store.run(3));
+        }
+        String max = "9223372036854775807";
+        String min = "-9223372036854775808";
+        String[][] due = {{"a+1", "2; null; null; -9223372036854775807; 3"}, {"a-1", "0; 9223372036854775806; null; null; 1"}, {"a*2", "2; null; null; null; 4"},
+            {"a/(2-a)", "1; -1; null; null; null"}, {"-a", "-1; -" + max + "; null; null; -2"}, {"abs(a)", "1; " + max + "; null; null; 2"},
+            {"a%(a-1)", "null; 1; null; null; 0"}, {"a in (1,null)", "1; null; null; null; null"}, {"a not in (2,null)", "null; null; null; null; 0"},
+            {"a between 1 and a", "1; 1; null; 0; 1"}, {"a between null and 1", "null; 0; null; null; 0"}, {"a=1", "1; 0; null; 0; 0"}, {"a is null", "0; 0; 1; 0; 0"},
+            {"not a", "0; 0; null; 0; 0"}, {"a>1 and null", "0; null; null; 0; null"}, {"a>1 or null", "null; 1; null; null; 1"},
+            {"b||b||b", "'xxx'; null; null; ''; 'xxx'"}, {"length(b)", "1; 24; null; 0; 1"}, {"substr(b,1,1)", "'x'; 'y'; null; ''; 'x'"},
+            {"substr(b,1,a-1)", "''; '" + "y".repeat(24) + "'; null; null; 'x'"}, {"b like 'x'", "1; 0; null; 0; 1"}, {"b not like 'x'", "0; 1; null; 1; 0"},
+            {"case when a=1 then b when a=2 then 'z' end", "'x'; null; null; null; 'z'"}, {"coalesce(b,null)", "'x'; '" + "y".repeat(24) + "'; null; ''; 'x'"},
+            {"coalesce(a+1,a)", "2; " + max + "; null; -9223372036854775807; 3"}, {"(select q.a from t q where q.a=p.a and q.a<3)", "1; null; null; " + min + "; 2"},
+            {"(select q.b from t q where q.b=p.b and q.a<3)", "'x'; null; null; ''; 'x'"}, {"a in (select q.a from t q where q.a=p.a)", "1; 1; 0; 1; 1"},
+            {"a in (select q.a from t q where q.a is null or q.a=1)", "1; null; null; null; null"}, {"exists (select 1 from t q where q.a=p.a)", "1; 1; 0; 1; 1"},
+            {"(select max(q.a) from t q where q.a<p.a)", min + "; 2; null; null; 1"}, {"(select sum(q.a) from t q where q.a<p.a)", min + "; -9223372036854775805; null; null; -9223372036854775807"},
+            {"(select count(q.a) from t q where q.a<p.a)", "1; 3; 0; 0; 2"}};
+        for (String[] d : due) db.query(d[1], "select " + d[0] + " from t p");
+        db.query("1 2; null null; null null; " + min + " -9223372036854775807; 2 3", "select q.a,q.a+1 from t p left join t q on q.a=p.a and q.a<3");
     }
 
     // ---- 6. Running a query

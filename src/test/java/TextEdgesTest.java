@@ -263,6 +263,21 @@ public final class TextEdgesTest {
         db.error(1, 9, "select  \n");
         db.error(1, 10, "create    ");
         db.error(1, 800, " ".repeat(800));
+        // Each statement, cut off behind each of its tokens that cannot be the last one.
+        String[] whole = {"select 1 limit ^", "select 1 limit 1 offset ^", "select 1 order by ^", "select 1 order ^", "select 1 from ^", "select 1 from t,^",
+            "select 1 from t join ^", "select 1 from t left ^", "select 1 from t left join u ^", "select 1 from t join u on ^", "select 1 where ^", "select 1 group ^",
+            "select 1 group by ^", "select 1 group by t.^", "select 1 having ^", "select 1 as ^", "select distinct ^", "select 1 union ^", "select 1 union all ^",
+            "select 1 in ^", "select 1 in (^", "select 1 not ^", "select 1 is ^", "select 1 is not ^", "select 1 between 2 ^", "select 1 between 2 and ^", "select 1 like ^",
+            "select case ^", "select case when 1 ^", "select case when 1 then ^", "select case when 1 then 2 else ^", "select exists ^", "select count ^", "select count(^",
+            "select count(* ^", "select (select 1 limit ^)", "select (select 1 limit 1 offset ^)", "select not ^", "select -^", "select 1||^", "insert ^", "insert or ^",
+            "insert into ^", "insert into t ^", "insert into t (a) ^", "insert into t values ^", "insert into t values (1),^", "update ^", "update t ^", "update t set ^",
+            "update t set a ^", "update t set a=^", "update t set a=1 where ^", "delete ^", "delete from ^", "delete from t where ^", "create ^", "create unique ^",
+            "create table ^", "create table t ^", "create table t (^", "create table t (a ^", "create table t (a int ^", "create table t (a int not ^",
+            "create table t (a int default ^", "create table t (a int default -^", "create table t (a int references ^", "create table t (a int references t(a) on ^",
+            "create table t (a int references t(a) on delete ^", "create table t (a int references t(a) on delete set ^", "create table t (a int,check ^",
+            "create table t (a int,unique(^", "create index ^", "create index i ^", "create index i on ^", "create index i on t ^", "create index i on t(a ^",
+            "create view ^", "create view v ^", "create view v as ^", "drop ^", "drop table ^", "savepoint ^", "release ^", "rollback to ^"};
+        for (String text : whole) wrong(text);
         db.error(1, 31, "select 1,2,3,4,5,6,7,8 union   ");
     }
 
