@@ -19,17 +19,14 @@ public final class PlainTest {
         "'bbbbbbbbbbbbbbbbbbbbbbb'", "'cccccccccccccccccc'", "'zz'"};
 
     private final Random random;
-    private final Db db = new Db();
-    private final SqlStore s = db.store;
-    private final PlainStore plain = new PlainStore();
-    private final StringBuilder done = new StringBuilder();
+    private final Both both = new Both();
+    private final SqlStore s = both.store;
+    private final PlainStore plain = both.plain;
     private TreeMap<String, List<String>> tables = new TreeMap<>();
     /** What refs may mean: names of sources, each with its columns, of the place and those further out. */
     private final List<Map.Entry<String, List<String>>> seen = new ArrayList<>();
     /** The refs that may stand in a grouped core; null if there is none. */
     private List<String> grouped;
-    private boolean right = true;
-    static final TreeMap<String, Integer> COUNTS = new TreeMap<>();
 
     private PlainTest(long seed) {
         random = new Random(seed);
@@ -40,11 +37,11 @@ public final class PlainTest {
         int count = args.length > 1 ? Integer.parseInt(args[1]) : 40;
         for (int seed = first; seed < first + count; seed++) {
             PlainTest test = new PlainTest(seed);
-            for (int i = 0; i < 120 && test.right; i++) test.act();
-            if (!test.right) System.out.println("seed " + seed + test.done);
+            for (int i = 0; i < 120 && test.both.right; i++) test.act();
+            if (!test.both.right) System.out.println("seed " + seed + test.both.done);
             if (Db.wrong > 5) break;
         }
-        if (args.length > 0) System.out.println(COUNTS);
+        if (args.length > 0) System.out.println(Both.COUNTS);
         Db.end();
     }
 
@@ -62,38 +59,6 @@ public final class PlainTest {
         return texts[upTo(texts.length)];
     }
 
-    private static Object answer(Supplier<Object> call) {
-        try {
-            return call.get();
-        } catch (IllegalStateException | IllegalArgumentException | IndexOutOfBoundsException e) {
-            return e.getClass().getSimpleName();
-        }
-    }
-
-    private Object same(String what, Supplier<Object> call, Supplier<Object> due) {
-        done.append("\n  ").append(what);
-        Object got = answer(call);
-        Object want = answer(due);
-        done.append(" -> ").append(want);
-        Db.asked++;
-        COUNTS.merge(what.split("[ (]")[0] + " " + (want instanceof Integer n && n >= 0 && n < 13 ? "" + want : want instanceof String ? want : "-"), 1, Integer::sum);
-        if (Objects.equals(got, want)) return want;
-        right = false;
-        Db.due(what, want, got);
-        return want;
-    }
-
-    private void tape(String text) {
-        db.tape(text);
-        plain.trim(0);
-        for (int at = 0; at < text.length(); at += 20) {
-            int[] n = new int[5];
-            for (int i = 0; i < 20; i++) n[i / 4] = n[i / 4] << 8 | (at + i < text.length() ? text.charAt(at + i) & 255 : 32);
-            plain.feed(n[0], n[1], n[2], n[3], n[4]);
-        }
-        plain.trim(text.length());
-    }
-
     private void act() {
         if (!s.isOpen() || chance(2)) {
             closed();
@@ -102,40 +67,40 @@ public final class PlainTest {
         int kind = upTo(100);
         if (kind < 7) {
             int client = upTo(3);
-            same("use " + client, () -> s.use(client), () -> plain.use(client));
+            both.use(client);
         } else if (kind < 15) {
-            same("checkpoint", s::checkpoint, plain::checkpoint);
+            both.same("checkpoint", s::checkpoint, plain::checkpoint);
         } else if (kind < 17) {
-            same("sync", s::sync, plain::sync);
+            both.same("sync", s::sync, plain::sync);
         } else if (kind < 20) {
             getters();
         } else if (kind < 26) {
             int slot = upTo(8);
-            same("run " + slot, () -> s.run(slot), () -> plain.run(slot));
+            both.run(slot);
         } else if (kind < 30) {
             transaction();
         } else {
             statement();
         }
-        same("digest", s::digest, plain::digest);
+        both.digest();
     }
 
     private void closed() {
         if (s.isOpen()) {
             int lost = chance(50) ? 0 : upTo(s.unsafeBytes() + 2);
             int copied = chance(50) ? 0 : upTo(5);
-            same("crash " + lost + " " + copied, () -> s.crash(lost, copied), () -> plain.crash(lost, copied));
-            same("digest", s::digest, plain::digest);
+            both.same("crash " + lost + " " + copied, () -> s.crash(lost, copied), () -> plain.crash(lost, copied));
+            both.digest();
             return;
         }
         for (int i = upTo(3); i > 0; i--) {
             int place = upTo(Math.max(1, s.logBytes() + 2)) - 1;
             int mask = upTo(260) - 2;
-            same("poke " + place + " " + mask, () -> s.poke(place, mask), () -> plain.poke(place, mask));
+            both.same("poke " + place + " " + mask, () -> s.poke(place, mask), () -> plain.poke(place, mask));
         }
         getters();
-        same("open", s::open, plain::open);
-        same("digest", s::digest, plain::digest);
+        both.same("open", s::open, plain::open);
+        both.digest();
     }
 
     private void getters() {
@@ -145,35 +110,27 @@ public final class PlainTest {
         int byteOf = upTo(258) - 1;
         int page = upTo(62) - 1;
         int place = upTo(9000);
-        same("trees", s::trees, plain::trees);
-        same("rootOf " + a, () -> s.rootOf(a), () -> plain.rootOf(a));
-        same("levelsOf " + a, () -> s.levelsOf(a), () -> plain.levelsOf(a));
-        same("entriesOf " + a, () -> s.entriesOf(a), () -> plain.entriesOf(a));
-        same("meanFill", s::meanFill, plain::meanFill);
-        same("pages", s::pages, plain::pages);
-        same("freePages", s::freePages, plain::freePages);
-        same("treePages", s::treePages, plain::treePages);
-        same("framesDue", s::framesDue, plain::framesDue);
-        same("kindAt", () -> s.kindAt(a, b), () -> plain.kindAt(a, b));
-        same("numberAt", () -> s.numberAt(a, b), () -> plain.numberAt(a, b));
-        same("lengthAt", () -> s.lengthAt(a, b), () -> plain.lengthAt(a, b));
-        same("byteAt", () -> s.byteAt(a, b, 1), () -> plain.byteAt(a, b, 1));
-        same("parameters", () -> s.parameters(slot), () -> plain.parameters(slot));
-        same("pageByte", () -> s.pageByte(page, byteOf), () -> plain.pageByte(page, byteOf));
-        same("fileByte", () -> s.fileByte(page, byteOf), () -> plain.fileByte(page, byteOf));
-        same("logByte", () -> s.logByte(place), () -> plain.logByte(place));
-        same("bindNumber", () -> s.bindNumber(slot, a, page), () -> plain.bindNumber(slot, a, page));
-        same("bindNull", () -> s.bindNull(slot, b), () -> plain.bindNull(slot, b));
-        same("bindText", () -> s.bindText(slot, b), () -> plain.bindText(slot, b));
-        indices(slot);
-    }
-
-    private void indices(int slot) {
-        for (int i = -1; i < 5; i++) {
-            int source = i;
-            same("indexUsed " + i, () -> s.indexUsed(slot, source), () -> plain.indexUsed(slot, source));
-            same("worthOf " + i, () -> s.worthOf(slot, source), () -> plain.worthOf(slot, source));
-        }
+        both.same("trees", s::trees, plain::trees);
+        both.same("rootOf " + a, () -> s.rootOf(a), () -> plain.rootOf(a));
+        both.same("levelsOf " + a, () -> s.levelsOf(a), () -> plain.levelsOf(a));
+        both.same("entriesOf " + a, () -> s.entriesOf(a), () -> plain.entriesOf(a));
+        both.same("meanFill", s::meanFill, plain::meanFill);
+        both.same("pages", s::pages, plain::pages);
+        both.same("freePages", s::freePages, plain::freePages);
+        both.same("treePages", s::treePages, plain::treePages);
+        both.same("framesDue", s::framesDue, plain::framesDue);
+        both.same("kindAt", () -> s.kindAt(a, b), () -> plain.kindAt(a, b));
+        both.same("numberAt", () -> s.numberAt(a, b), () -> plain.numberAt(a, b));
+        both.same("lengthAt", () -> s.lengthAt(a, b), () -> plain.lengthAt(a, b));
+        both.same("byteAt", () -> s.byteAt(a, b, 1), () -> plain.byteAt(a, b, 1));
+        both.same("parameters", () -> s.parameters(slot), () -> plain.parameters(slot));
+        both.same("pageByte", () -> s.pageByte(page, byteOf), () -> plain.pageByte(page, byteOf));
+        both.same("fileByte", () -> s.fileByte(page, byteOf), () -> plain.fileByte(page, byteOf));
+        both.same("logByte", () -> s.logByte(place), () -> plain.logByte(place));
+        both.same("bindNumber", () -> s.bindNumber(slot, a, page), () -> plain.bindNumber(slot, a, page));
+        both.same("bindNull", () -> s.bindNull(slot, b), () -> plain.bindNull(slot, b));
+        both.same("bindText", () -> s.bindText(slot, b), () -> plain.bindText(slot, b));
+        both.indices(slot);
     }
 
     private void transaction() {
@@ -208,37 +165,20 @@ public final class PlainTest {
     }
 
     private void run(int slot, String text) {
-        tape(text);
-        Object error = same("prepare " + slot + " " + text, () -> s.prepare(slot), () -> plain.prepare(slot));
-        same("errorAt", s::errorAt, plain::errorAt);
-        if (!Objects.equals(error, 0)) return;
+        if (!Objects.equals(both.prepare(slot, text), 0)) return;
         int parameters = plain.parameters(slot);
         for (int i = 0; i < parameters; i++) bind(slot, i);
-        indices(slot);
-        same("run " + slot, () -> s.run(slot), () -> plain.run(slot));
+        both.indices(slot);
+        both.run(slot);
         if (parameters == 0 || chance(60)) return;
         for (int i = 0; i < parameters; i++) bind(slot, i);
-        same("run " + slot, () -> s.run(slot), () -> plain.run(slot));
+        both.run(slot);
     }
 
     private void bind(int slot, int place) {
         if (chance(10)) return;
-        long number = number();
-        Object done = same("bindNumber " + slot + " " + place + " " + number, () -> s.bindNumber(slot, place, number), () -> plain.bindNumber(slot, place, number));
-        if (!(done instanceof String)) return;
         String text = oneOf(TEXTS).replace("'", "");
-        tape(chance(5) ? text + text + text : text);
-        same("bindText " + text, () -> s.bindText(slot, place), () -> plain.bindText(slot, place));
-    }
-
-    private long number() {
-        if (chance(85)) return upTo(9) - 2;
-        return switch (upTo(5)) {
-            case 0 -> Long.MAX_VALUE - upTo(2);
-            case 1 -> Long.MIN_VALUE + upTo(2);
-            case 2 -> random.nextLong() >> upTo(64);
-            default -> upTo(600) - 300;
-        };
+        both.bind(slot, place, Both.number(random, 9), chance(5) ? text + text + text : text);
     }
 
     // ---- statements
